@@ -650,8 +650,8 @@ public final class SevenTown {
 
         private final Net net;
         private final long[] ways = new long[MOST_PEOPLE];
-        private final int[] with = new int[MOST_PEOPLE];
-        private final int[] without = new int[MOST_PEOPLE];
+        private final int[] row = new int[MOST_PEOPLE];
+        private final int[] otherRow = new int[MOST_PEOPLE];
         private final long[] free = new long[NODES];
         private final int[] giver = new int[NODES];
         private final int[] queue = new int[NODES];
@@ -702,11 +702,12 @@ public final class SevenTown {
         }
 
         int onSome(int one, int other) {
-            net.measure(one, with);
-            net.measure(other, without);
+            net.measure(one, row);
+            net.measure(other, otherRow);
             int found = 0;
             for (int i = 0; i < net.people; i++) {
-                if (i != one && i != other && with[i] != NONE && with[i] + without[i] == with[other]) {
+                boolean third = i != one && i != other && row[i] != NONE;
+                if (third && row[i] + otherRow[i] == row[other]) {
                     found |= 1 << i;
                 }
             }
@@ -717,12 +718,12 @@ public final class SevenTown {
         int loadOf(int one, int other) {
             int ends = 0;
             for (int i = 0; i < net.people; i++) {
-                net.measure(i, with);
+                net.measure(i, row);
                 net.part(one, other);
-                net.measure(i, without);
+                net.measure(i, otherRow);
                 net.join(one, other);
                 for (int j = 0; j < net.people; j++) {
-                    ends += with[j] != without[j] ? 1 : 0;
+                    ends += row[j] != otherRow[j] ? 1 : 0;
                 }
             }
             return ends / 2;
@@ -1516,12 +1517,12 @@ public final class SevenTown {
             int seen = 1 << one;
             int front = seen;
             int value = 0;
-            for (int halvings = 0; halvings < net.people && (needed[one] & ~seen) != 0; halvings++) {
-                front = net.around(front, net.everybody & ~seen);
-                if (front == 0) {
+            for (int step = 1; step < net.people && front != 0; step++) {
+                if ((needed[one] & ~seen) == 0) {
                     return value;
                 }
-                value += valueAmong(one, front & needed[one], halvings);
+                front = net.around(front, net.everybody & ~seen);
+                value += valueAmong(one, front & needed[one], step - 1);
                 seen |= front;
             }
             return value;
