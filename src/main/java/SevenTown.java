@@ -26,7 +26,6 @@ public final class SevenTown {
     private static final int SETS_OF_CHOSEN = 1140;
 
     private final int people;
-    private final int everybody;
     private final Net net;
     private final Net image;
     private final Net spare;
@@ -44,7 +43,6 @@ public final class SevenTown {
 
     public SevenTown(int people) {
         this.people = Math.max(FEWEST_PEOPLE, Math.min(MOST_PEOPLE, people));
-        this.everybody = (1 << this.people) - 1;
         this.net = new Net(this.people);
         this.image = new Net(this.people);
         this.spare = new Net(this.people);
@@ -134,7 +132,7 @@ public final class SevenTown {
     }
 
     public int far(int one, int other) {
-        return net.has(one) && net.has(other) ? net.distance(one, other, everybody) : NONE;
+        return net.has(one) && net.has(other) ? net.distance(one, other, net.everybody) : NONE;
     }
 
     public long ways(int one, int other) {
@@ -157,7 +155,7 @@ public final class SevenTown {
         }
         switch (what) {
             case 0: return net.sumOf(one);
-            case 1: return net.reached(1 << one, everybody);
+            case 1: return net.reached(1 << one, net.everybody);
             case 2: return losses.cutBy(one);
             case 3: return net.age[one];
             case 4: return net.limit[one];
@@ -396,7 +394,7 @@ public final class SevenTown {
         }
         int heard = from;
         for (int i = 0; i < rounds; i++) {
-            heard |= net.around(heard, everybody);
+            heard |= net.around(heard, net.everybody);
         }
         return heard;
     }
@@ -660,8 +658,8 @@ public final class SevenTown {
             this.net = net;
         }
 
+        /** Of two who are joined: the ways to others are left over from calls ahead. */
         long waysBetween(int one, int other) {
-            Arrays.fill(ways, 0L);
             ways[one] = 1;
             int seen = 1 << one;
             int front = seen;

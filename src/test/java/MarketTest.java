@@ -1,3 +1,5 @@
+import java.util.Random;
+
 /** Promises 20 to 27: needs, values, gains, changes, turns. */
 public final class MarketTest {
     private MarketTest() {
@@ -10,10 +12,16 @@ public final class MarketTest {
         gain();
         gainWithDrops();
         change();
+        leastChanges();
         best();
         bestOfSeveral();
         turn();
         ring();
+        fortyTurns(139, 39);
+        fortyTurns(522, 40);
+        fortyTurns(2972, 41);
+        fortyTurns(2122, 42);
+        fortyTurns(495, 200);
         stable();
         Due.report();
     }
@@ -38,6 +46,9 @@ public final class MarketTest {
         }
         Due.no("a 61st", town.need(0, 10, 1));
         Due.yes("anew instead", town.need(0, 1, 1));
+        Due.yes("none that is not there is gone", town.need(0, 10, 0));
+        Due.yes("anew instead of 1", town.need(0, 1, 2));
+        Due.yes("anew instead of 2", town.need(0, 1, 1));
         Due.yes("one gone", town.need(0, 2, 0));
         Due.same("59", town.count(3), 59);
         Due.yes("a 60th again", town.need(0, 10, 1));
@@ -141,6 +152,30 @@ public final class MarketTest {
         Due.no("no more", town.change(0, -1, 3, -1));
     }
 
+    /** Changes by which one gains first and the other second: a and c have b between them. */
+    private static boolean changed(int first, int second) {
+        SevenTown town = Due.town(3, "ab,bc");
+        town.need(0, 2, first);
+        town.need(2, 0, second);
+        boolean made = town.change(0, -1, 2, -1);
+        Due.same("tied then", Due.knows(town, 0), made ? 6 : 2);
+        return made;
+    }
+
+    private static void leastChanges() {
+        Due.yes("1 and 1", changed(1, 1));
+        Due.no("0 and 1", changed(0, 1));
+        Due.no("1 and 0", changed(1, 0));
+        SevenTown town = Due.town(3, "ab,bc");
+        town.need(0, 2, 10);
+        town.need(2, 0, 12);
+        town.cost(5);
+        Due.no("5 less 5", town.change(0, 1, 2, -1));
+        Due.no("6, but the other 5 less 5",
+                town.change(2, -1, 0, 1));
+        Due.yes("6 less 5, and 5", town.change(0, -1, 2, 1));
+    }
+
     private static void best() {
         SevenTown town = Due.town(6, "ab,bc,cd");
         town.need(0, 3, 40);
@@ -231,6 +266,45 @@ public final class MarketTest {
         town.cost(4);
         Due.same("too dear", town.turn(), 0);
         Due.yes("stable", town.stable());
+    }
+
+    /** Towns by chance that come to rest behind so many changes (not at all, for 200). */
+    private static void fortyTurns(int seed, int due) {
+        SevenTown town = chanceTown(seed);
+        int made = 0;
+        int idle = 0;
+        for (int one = 0; idle < town.count(0) && made < 200; one = (one + 1) % town.count(0)) {
+            int takes = town.best(one, 0);
+            idle++;
+            if (takes != SevenTown.HIDDEN) {
+                Due.yes("wanted", town.change(one, town.best(one, 1), takes, town.best(one, 2)));
+                made++;
+                idle = 0;
+            }
+        }
+        Due.same("changes by hand", made, due);
+        SevenTown turned = chanceTown(seed);
+        Due.same("turns of seed " + seed, turned.turn(), due <= 40 ? due : -1);
+        for (int one = 0; one < town.count(0); one++) {
+            Due.same("ties behind turns", Due.knows(turned, one),
+                    due <= 40 ? Due.knows(town, one) : 0);
+        }
+    }
+
+    private static SevenTown chanceTown(int seed) {
+        Random random = new Random(seed);
+        int people = 8 + random.nextInt(13);
+        SevenTown town = new SevenTown(people);
+        for (int i = 0; i < people; i++) {
+            town.most(i, 2 + random.nextInt(7));
+        }
+        for (int i = 0; i < 60; i++) {
+            int one = random.nextInt(people);
+            int other = random.nextInt(people);
+            town.need(one, other, 1 + random.nextInt(99));
+        }
+        town.cost(random.nextInt(5));
+        return town;
     }
 
     private static void stable() {

@@ -100,6 +100,9 @@ public final class RulesTest {
         clauses("(1=1|1=1)&1=2?5;y:6", 6);
         clauses("!1=1|1=1?5;y:6", 5);
         clauses("!(1=1|1=1)?5;y:6", 6);
+        clauses("!1<2?5;y:6", 6);
+        clauses("!2>1?5;y:6", 6);
+        clauses("!!(1<2&2>1)?5;y:6", 5);
         clauses("1=2&1=1|1=1?5;y:6", 5);
         clauses("1+1=2&[3]*2>5?1=1;y:6".replace("1=1;", "4;"), 4);
         clauses("4;y:6", 4);
@@ -205,6 +208,12 @@ public final class RulesTest {
         Due.same("a is born anew", drawn.of(0, 3), 0);
         Due.same("b is 2", drawn.of(1, 3), 2);
         Due.same("a's tie is gone", drawn.all(3), 0);
+        SevenTown second = Due.town(3, "ab,bc,ac");
+        Due.text(second, 1, "y:0");
+        Due.same("one dies", second.years(0, 30, 1, seedFor(1)), 1);
+        Due.same("b", second.of(1, 3), 0);
+        Due.same("b's ties are gone", Due.knows(second, 1), 0);
+        Due.same("others' stay", Due.knows(second, 0), Due.bits(2));
         Due.same("all die each year", town.years(0, 100, 30, -5L), 120);
         Due.same("no ties", town.all(3), 0);
         Due.same("age", town.of(3, 3), 0);
@@ -229,6 +238,17 @@ public final class RulesTest {
             dead += draw < death ? 1 : 0;
         }
         return dead;
+    }
+
+    /** A seed by which of three that one alone dies below 30. */
+    private static long seedFor(int one) {
+        for (long seed = 0; seed < 1000; seed++) {
+            int ahead = dyingOf(30, seed, one);
+            if (ahead == 0 && dyingOf(30, seed, one + 1) == 1 && dyingOf(30, seed, 3) == 1) {
+                return seed;
+            }
+        }
+        throw new IllegalStateException("no seed");
     }
 
     private static void births() {
@@ -277,8 +297,11 @@ public final class RulesTest {
         Due.text(letters, 1, "y:t+f+b+a");
         letters.years(1, 0, 1, 1L);
         Due.same("letters not told of are 0", Due.knows(letters, 0), 0);
-        Due.text(letters, 1, "y:d+o+r");
-        Due.same("nor in a letter", letters.send(2, 1, 3, 1), 2);
+        SevenTown after = Due.town(4, "ab,ac,bd,cd");
+        Due.text(after, 1, "y:0-d-o-r");
+        Due.text(after, 1, "y:d+o+r>0?0-a;y:a");
+        after.years(0, 0, 1, 1L);
+        Due.same("nor in a letter", after.send(1, 0, 3, 1), 1);
     }
 
     /** Whom a knows when it has looked: it has room for one more, so that nobody takes it then. */
@@ -321,6 +344,16 @@ public final class RulesTest {
         Due.text(lowest, 1, "y:1-k");
         lowest.years(0, 0, 1, 1L);
         Due.same("of several the lowest goes", Due.knows(lowest, 0), Due.bits(2, 4));
+        SevenTown middle = Due.town(6, "ab,ac,ad,be,bf,de");
+        middle.most(0, 3);
+        middle.most(4, 9);
+        middle.most(5, 1);
+        middle.most(1, 3);
+        middle.most(3, 2);
+        Due.text(middle, 1, "y:k*10-9");
+        middle.cost(9);
+        middle.years(0, 0, 1, 1L);
+        Due.same("c, with one tie, goes for e, with two", Due.knows(middle, 0), Due.bits(1, 3, 4));
         SevenTown none = new SevenTown(3);
         for (int i = 0; i < 3; i++) {
             none.most(i, 0);

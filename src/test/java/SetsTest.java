@@ -137,6 +137,13 @@ public final class SetsTest {
         Due.same("all hosts", alone.set(2), (1 << 20) - 1);
         ring.ring(512);
         Due.same("ten pairs", ring.set(2), (1 << 10) - 1);
+        ring.ring(15 - 8);
+        Due.same("a circle of four", ring.set(0), 15);
+        Due.text(ring, 0, "qs,pt");
+        Due.same("a smaller one behind a greater", ring.set(0), Due.bits(15, 19));
+        Due.same("apart", ring.set(1), (1 << 18) - 1);
+        Due.same("one host", Due.town(6, "ad,bd,cd,ed,fd").set(2), Due.bits(3));
+        Due.same("two hosts", Due.town(6, "ad,bd,ce,cf").set(2), Due.bits(2, 3));
         Due.same("a greater one though higher", Due.town(6, "ab,cd,de,ec").set(0),
                 Due.bits(2, 3, 4));
     }
@@ -229,6 +236,9 @@ public final class SetsTest {
         Due.same("of several the lowest", new SevenTown(5).courier(0), 0);
         Due.same("none", new SevenTown(5).courier(1), 0);
         Due.same("two", Due.town(2, "ab").courier(1), 0);
+        Due.same("a", Due.town(4, "ab,ac,ad").courier(0), 0);
+        Due.same("b", Due.town(4, "ba,bc,bd").courier(0), 1);
+        Due.same("d", Due.town(4, "da,db,dc").courier(0), 3);
         SevenTown ring = new SevenTown(5);
         ring.ring(1);
         Due.same("a: b and e are three apart then", ring.courier(0), 0);

@@ -54,6 +54,10 @@ public final class TextsTest {
             Due.same("twenty more", town.feed(full, full, full, full, full), 20 * i);
         }
         Due.same("201", town.feed(0, 0, 0, 0, 1), -1);
+        Due.same("201", town.feed(1 << 31, 0, 0, 0, 0), -1);
+        Due.same("201", town.feed(0, 1 << 16, 0, 0, 0), -1);
+        Due.same("201", town.feed(0, 0, 1, 0, 0), -1);
+        Due.same("201", town.feed(0, 0, 0, 1 << 8, 0), -1);
         Due.same("no byte is still fed", town.feed(0, 0, 0, 0, 0), 200);
         Due.same("nothing changed", town.count(2), 200);
         town.end(199);

@@ -123,6 +123,9 @@ public final class TiesTest {
         Due.same("on all", town.over(0, 6, 0), Due.bits(3));
         Due.same("on some", town.over(0, 6, 1), Due.bits(1, 2, 3, 4, 5));
         Due.same("on all of a to d", town.over(0, 3, 0), 0);
+        Due.same("two on all", Due.town(5, "ab,bc,cd,de").over(1, 4, 0), Due.bits(2, 3));
+        Due.same("a on all", Due.town(5, "ab,ac,ad").over(1, 3, 0), Due.bits(0));
+        Due.same("a on some", Due.town(5, "ab,ac,bd,cd").over(1, 2, 1), Due.bits(0, 3));
         Due.same("tied", town.over(0, 1, 1), 0);
         Due.same("itself", town.over(0, 0, 1), 0);
         Due.same("itself", town.over(8, 8, 0), 0);
@@ -139,6 +142,8 @@ public final class TiesTest {
         Due.same("sum of g", town.of(6, 0), 1 + 5 * 7);
         Due.same("part of c", town.of(2, 1), Due.bits(0, 1, 2, 3, 4));
         Due.same("part of f", town.of(5, 1), Due.bits(5, 6));
+        Due.same("part of g", town.of(6, 1), Due.bits(5, 6));
+        Due.same("part of e", town.of(4, 1), Due.bits(0, 1, 2, 3, 4));
         Due.same("cut by c", town.of(2, 2), 4);
         Due.same("cut by b", town.of(1, 2), 3);
         Due.same("cut by f", town.of(5, 2), 0);
@@ -160,6 +165,10 @@ public final class TiesTest {
         Due.same("sums", town.all(4), 24 + 21 + 20 + 21 + 24 + 36 + 36);
         Due.same("no such what", town.all(5), -1);
         Due.same("no such what", town.all(-1), -1);
+        SevenTown crossed = Due.town(7, "ae,ac,bd,df");
+        Due.same("parts that cross", crossed.all(1), 3);
+        Due.same("a is a key one, and d", crossed.all(2), Due.bits(0, 3));
+        Due.same("cut by a: one pair", crossed.of(0, 2), 1);
         SevenTown alone = new SevenTown(3);
         Due.same("nobody joined", alone.all(0), 0);
         Due.same("three parts", alone.all(1), 3);
@@ -189,7 +198,9 @@ public final class TiesTest {
         Due.same("alike", town.apart(2, 2), -1);
         Due.same("no such one", town.apart(0, 8), -1);
         Due.same("no such one", town.apart(-1, 0), -1);
-        Due.same("a row taken back", Due.town(6, "ab,ac,bc,bd,ce,cd,df,ef").apart(0, 5), 2);
+        Due.same("a row taken back", Due.town(6, "ab,ac,bd,be,cd,df,ef").apart(0, 5), 2);
+        Due.same("from the other end", Due.town(6, "ab,ac,bd,be,cd,df,ef").apart(5, 0), 2);
+        Due.same("all others", Due.town(5, "ab,ac,ad,eb,ec,ed").apart(0, 4), 3);
         Due.same("all over one", Due.town(7, "ab,ac,bd,cd,de,df,eg,fg").apart(0, 6), 1);
     }
 
@@ -243,6 +254,18 @@ public final class TiesTest {
         town.most(4, 1);
         town.most(3, 2);
         Due.same("a part without room", town.mend(), -1);
+        SevenTown four = new SevenTown(4);
+        for (int i = 0; i < 4; i++) {
+            four.most(i, 1);
+        }
+        Due.same("four ends are too few for three ties", four.mend(), -1);
+        four.most(3, 2);
+        Due.same("five too", four.mend(), -1);
+        four.most(2, 2);
+        Due.same("six are enough", four.mend(), 3);
+        four.most(0, 0);
+        four.most(3, 9);
+        Due.same("a has no room", four.mend(), -1);
         SevenTown full = Due.town(2, "ab");
         full.most(0, 1);
         full.most(1, 1);
