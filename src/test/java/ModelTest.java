@@ -287,6 +287,21 @@ public final class ModelTest {
         int one = upTo(people);
         int other = (one + 1 + upTo(people - 1)) % people;
         Due.same(run + "apart", town.apart(one, other), plain.apart(one, other));
+        manyYears();
+    }
+
+    private void manyYears() {
+        for (int rule = 1; rule < 6; rule++) {
+            String text = RULES[rule + 1];
+            Due.same(run + text, Due.text(town, 1, text), rule);
+            plain.rules.add(text);
+            int death = upTo(10);
+            long seed = random.nextLong();
+            Due.same(run + "years", town.years(rule, death, 30, seed),
+                    plain.years(rule, death, 30, seed));
+            ties();
+            Due.same(run + "gifts", town.comes(rule, 1), plain.comes(rule, 1));
+        }
     }
 
     private static void mends() {

@@ -95,6 +95,9 @@ public final class TiesTest {
             row.tie(i, i + 1);
         }
         Due.same("from end to end", row.far(0, 19), 19);
+        Due.same("one way", row.ways(0, 19), 1);
+        Due.same("32 is not 0", row.far(32, 1), -1);
+        Due.same("33 is not 1", row.far(0, 33), -1);
     }
 
     private static void ways() {
