@@ -1,11 +1,27 @@
 import java.util.NoSuchElementException;
+import java.util.function.BooleanSupplier;
+import java.util.function.LongSupplier;
 
-/** What every test counts with: answers due, and texts fed as bytes. */
+/**
+ * What every test counts with: answers due, texts fed as bytes, and the sentences of the document
+ * for which the answers are asked (SentencesTest looks whether each has its tests).
+ */
 final class Due {
+    private static String asked = "";
     private static int wrong = 0;
     private static int looked = 0;
 
     private Due() {
+    }
+
+    /** What is asked from here on is asked for these words of a promise. */
+    static void promise(int number, String words) {
+        asked = "Promise " + number + " <" + words + ">: ";
+    }
+
+    /** What is asked from here on is asked for these words of the document's terms. */
+    static void term(String words) {
+        asked = "Terms <" + words + ">: ";
     }
 
     static void same(String call, long got, long due) {
@@ -13,7 +29,7 @@ final class Due {
         if (got != due) {
             wrong++;
             if (wrong <= 40) {
-                System.out.println(call + " answered " + got + ", due is " + due);
+                System.out.println(asked + call + " answered " + got + ", due is " + due);
             }
         }
     }
@@ -24,6 +40,18 @@ final class Due {
 
     static void no(String call, boolean got) {
         same(call, got ? 1 : 0, 0);
+    }
+
+    /** A call that is refused: it answers as due and leaves everything as it was. */
+    static void refused(SevenTown town, String call, long due, LongSupplier made) {
+        String ahead = Look.all(town);
+        same(call, made.getAsLong(), due);
+        yes(call + " changes nothing", Look.all(town).equals(ahead));
+    }
+
+    /** A call that is refused by false. */
+    static void refused(SevenTown town, String call, BooleanSupplier made) {
+        refused(town, call, 0, () -> made.getAsBoolean() ? 1 : 0);
     }
 
     /** Ends the test with 1 if an answer was not as due. */
@@ -78,6 +106,15 @@ final class Due {
         SevenTown town = new SevenTown(people);
         if (text(town, 0, net) == SevenTown.NONE) {
             throw new IllegalStateException("no net: " + net);
+        }
+        return town;
+    }
+
+    /** A town with a net and with a rule, whose number is 0. */
+    static SevenTown town(int people, String net, String rule) {
+        SevenTown town = town(people, net);
+        if (text(town, 1, rule) == SevenTown.NONE) {
+            throw new IllegalStateException("no rule: " + rule);
         }
         return town;
     }

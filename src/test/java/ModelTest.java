@@ -1,6 +1,9 @@
 import java.util.Random;
 
-/** Towns by chance, with calls by chance, each answer as the plain town has it. */
+/**
+ * Towns by chance, with calls by chance, each answer as the plain town has it. No town is asked
+ * more than 512 times: what later calls answer is free.
+ */
 public final class ModelTest {
     private static final String[] RULES = {
         "y:t*1000+f*100-a", "y:0-b*3-a;y:1", "y:f=1|t=1?9999-b;y:k-c*2-b", "y:d*3-k+c*c-o/2",
@@ -18,7 +21,7 @@ public final class ModelTest {
     }
 
     public static void main(String[] args) {
-        for (int seed = 0; seed < 400; seed++) {
+        for (int seed = 0; seed < 2400; seed++) {
             new ModelTest(seed).run(seed);
         }
         for (int seed = 0; seed < 3; seed++) {
@@ -52,12 +55,11 @@ public final class ModelTest {
             Due.same(run + rule, Due.text(town, 1, rule), i);
             plain.rules.add(rule);
         }
-        for (int round = 0; round < 6; round++) {
-            for (int i = 0; i < 6; i++) {
-                alter();
-            }
-            look();
+        int changes = upTo(40);
+        for (int i = 0; i < changes; i++) {
+            alter();
         }
+        look();
     }
 
     private void alter() {
@@ -150,10 +152,11 @@ public final class ModelTest {
 
     private void ties() {
         for (int i = 0; i < plain.people; i++) {
+            int known = 0;
             for (int j = 0; j < plain.people; j++) {
-                Due.same(run + "knows " + i + " " + j, Due.knows(town, i) >> j & 1,
-                        plain.tied[i][j] ? 1 : 0);
+                known |= plain.tied[i][j] ? 1 << j : 0;
             }
+            Due.same(run + "knows " + i, Due.knows(town, i), known);
             Due.same(run + "age", town.of(i, 3), plain.age[i]);
             Due.same(run + "most", town.of(i, 4), plain.most[i]);
         }
@@ -251,30 +254,15 @@ public final class ModelTest {
 
     /** Towns of many people, with calls alone for which the plain town does not take too long. */
     private void greatTown(int seed) {
-        int people = 18 + seed;
-        run = "great town " + people + ": ";
-        town = new SevenTown(people);
-        plain = new PlainTown(people);
-        Due.text(town, 1, RULES[0]);
-        plain.rules.add(RULES[0]);
-        for (int i = 0; i < 16 + 8 * seed; i++) {
-            int one = upTo(people);
-            int other = upTo(people);
-            if (town.tie(one, other)) {
-                plain.put(one, other, true);
+        run = "great town " + (18 + seed) + ": ";
+        for (int one = 0; one < 18 + seed; one++) {
+            grow(seed);
+            for (int other = 0; other < plain.people; other++) {
+                greatPair(one, other);
             }
+            single(one);
         }
-        for (int i = 0; i < people; i++) {
-            for (int j = 0; j < people; j++) {
-                Due.same(run + "far", town.far(i, j), plain.far(i, j));
-                Due.same(run + "ways", town.ways(i, j), plain.ways(i, j));
-                Due.same(run + "on all", town.over(i, j, 0), plain.over(i, j, 0));
-                Due.same(run + "on some", town.over(i, j, 1), plain.over(i, j, 1));
-                Due.same(run + "load", town.load(i, j), plain.load(i, j));
-                Due.same(run + "send", town.send(0, i, j, -1), plain.send(0, i, j, -1));
-            }
-            single(i);
-        }
+        grow(seed);
         for (int what = 0; what < 4; what++) {
             Due.same(run + "all " + what, town.all(what), plain.all(what));
             Due.same(run + "set " + what, town.set(what), plain.set(what));
@@ -284,10 +272,37 @@ public final class ModelTest {
             Due.same(run + "fine " + what, town.fine(what, 0), plain.fine(what, 0));
             Due.same(run + "begin " + what, town.begin(what), plain.begin(what));
         }
-        int one = upTo(people);
-        int other = (one + 1 + upTo(people - 1)) % people;
+        int one = upTo(plain.people);
+        int other = (one + 1 + upTo(plain.people - 1)) % plain.people;
         Due.same(run + "apart", town.apart(one, other), plain.apart(one, other));
+        grow(seed);
         manyYears();
+    }
+
+    /** The same great town each time that the seed is the same. */
+    private void grow(int seed) {
+        Random ties = new Random(seed);
+        int people = 18 + seed;
+        town = new SevenTown(people);
+        plain = new PlainTown(people);
+        Due.text(town, 1, RULES[0]);
+        plain.rules.add(RULES[0]);
+        for (int i = 0; i < 16 + 8 * seed; i++) {
+            int one = ties.nextInt(people);
+            int other = ties.nextInt(people);
+            if (town.tie(one, other)) {
+                plain.put(one, other, true);
+            }
+        }
+    }
+
+    private void greatPair(int one, int other) {
+        Due.same(run + "far", town.far(one, other), plain.far(one, other));
+        Due.same(run + "ways", town.ways(one, other), plain.ways(one, other));
+        Due.same(run + "on all", town.over(one, other, 0), plain.over(one, other, 0));
+        Due.same(run + "on some", town.over(one, other, 1), plain.over(one, other, 1));
+        Due.same(run + "load", town.load(one, other), plain.load(one, other));
+        Due.same(run + "send", town.send(0, one, other, -1), plain.send(0, one, other, -1));
     }
 
     private void manyYears() {

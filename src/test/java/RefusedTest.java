@@ -19,7 +19,8 @@ public final class RefusedTest {
     }
 
     public static void main(String[] args) {
-        for (int seed = 0; seed < 1500; seed++) {
+        Due.term("What is refused answers as told and changes nothing.");
+        for (int seed = 0; seed < 12000; seed++) {
             new RefusedTest(seed).run();
         }
         Due.report();
@@ -34,28 +35,14 @@ public final class RefusedTest {
         for (int i = 0; i < 2; i++) {
             Due.text(town, 1, i == 0 ? "y:0-b*k+c" : "y:d>1|k=0?c+o+1;y:r-d");
         }
-        for (int i = 0; i < 40; i++) {
-            String ahead = state();
-            int call = random.nextInt(46);
-            boolean refused = answer(call);
-            if (refused) {
-                Due.same("call " + call + " refused changes nothing", state().equals(ahead) ? 1 : 0,
-                        1);
-            }
+        for (int i = random.nextInt(40); i > 0; i--) {
+            answer(random.nextInt(46));
         }
-    }
-
-    /** All that can be looked at, as far as a call may change it. */
-    private String state() {
-        StringBuilder state = new StringBuilder();
-        for (int i = 0; i < town.count(0); i++) {
-            state.append(Due.knows(town, i)).append(' ').append(town.of(i, 3)).append(' ');
-            state.append(town.of(i, 4)).append(' ').append(town.value(i)).append(' ');
+        String ahead = Look.all(town);
+        int call = random.nextInt(46);
+        if (answer(call)) {
+            Due.yes("call " + call + " changes nothing", Look.all(town).equals(ahead));
         }
-        for (int i = 0; i < 5; i++) {
-            state.append(town.count(i)).append(' ');
-        }
-        return state.append(town.fault(0)).append(' ').append(town.fault(1)).toString();
     }
 
     /** Makes the call; whether it is refused or only looks. */

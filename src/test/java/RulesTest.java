@@ -1,5 +1,8 @@
-/** Promises 28 to 30: what rules are worth, letters, years. */
+/** Promises 28 to 30, and the terms of what rules are worth, letters, years. */
 public final class RulesTest {
+    private static final int[] NOBODY = {5, 6, 20, 32, 37, Integer.MAX_VALUE, -1, -2, -32,
+        Integer.MIN_VALUE};
+
     private RulesTest() {
     }
 
@@ -7,15 +10,25 @@ public final class RulesTest {
         worth();
         bounds();
         conditions();
-        send();
+        clausesInOrder();
+        promise28Send();
+        promise28Refused();
         sendByEachLetter();
+        howOften();
         sixtyGifts();
-        comes();
-        deaths();
+        promise29Comes();
+        promise29Refused();
+        promise30Deaths();
+        draws();
+        dyingByOneSeed();
         births();
+        asItIsThen();
         birthsByEachLetter();
-        full();
-        refused();
+        lettersNotTold();
+        fullAndCost();
+        fullAndSeveral();
+        mostOfNothing();
+        promise30Refused();
         Due.report();
     }
 
@@ -44,6 +57,8 @@ public final class RulesTest {
     }
 
     private static void worth() {
+        Due.term("SUM: TERMS with + or - between; TERM: ATOMS with * or / between; ATOM: a number"
+                + " (1 to 4 digits), a letter (t f k c b a d o r), [ SUM ].");
         sum("7", 7);
         sum("1+2*3", 7);
         sum("[1+2]*3", 9);
@@ -52,24 +67,56 @@ public final class RulesTest {
         sum("24/4/3", 2);
         sum("24/[4/2]", 12);
         sum("2*3+4*5", 26);
-        sum("7/2", 3);
-        sum("[0-7]/2", -3);
-        sum("7/[0-2]", -3);
-        sum("5/0", 0);
-        sum("5/0+3", 3);
-        sum("5/[2-2]*7", 0);
         sum("0007", 7);
         sum(" 1 + 2 ", 3);
+        sum("9999", 9999);
+        sum("[[[[[[8]]]]]]", 8);
+        Due.term("Letters: t 1 if that is the one meant, f 1 if that KNOWS the one meant, k how"
+                + " many that KNOWS, c how many both KNOW, b how often it was there, a how far their"
+                + " numbers are apart (that one's and the one's meant).");
         sum("t", 0);
         sum("f", 1);
         sum("k", 2);
         sum("c", 0);
         sum("a", 2);
         sum("b", 0);
-        sum("d+o+r", 0);
+        Due.term("Letters that are not told of what is asked are 0.");
+        sum("d", 0);
+        sum("o", 0);
+        sum("r", 0);
     }
 
     private static void bounds() {
+        Due.term("Behind each sign numbers are within -1,000,000 .. 1,000,000; / cuts towards 0, by"
+                + " 0 gives 0.");
+        sum("7/2", 3);
+        sum("8/2", 4);
+        sum("1/2", 0);
+        sum("[0-1]/2", 0);
+        sum("[0-7]/2", -3);
+        sum("7/[0-2]", -3);
+        sum("[0-7]/[0-2]", 3);
+        sum("5/0", 0);
+        sum("[0-5]/0", 0);
+        sum("0/0", 0);
+        sum("5/0+3", 3);
+        sum("5/[2-2]*7", 0);
+        sum("5/[7/9]", 0);
+        sum("1000*1000", 1000000);
+        sum("1000*1000+1", 1000000);
+        sum("1000*1000-1", 999999);
+        sum("1001*999", 999999);
+        sum("1001*999+1", 1000000);
+        sum("1001*999+2-1", 999999);
+        sum("0-1000*1000", -1000000);
+        sum("0-1000*1000-1+1", -999999);
+        sum("0-1001*999-2+1", -999999);
+        sum("1000*1000/[0-1]", -1000000);
+        sum("[0-1000*1000]/[0-1]", 1000000);
+        sum("1000*1000*[1000*1000]", 1000000);
+        sum("1000*1000*[0-1000*1000]", -1000000);
+        sum("[0-1000*1000]*[0-1000*1000]-1", 999999);
+        sum("[0-1000*1000]-1000*1000+1000*1000", 0);
         sum("9999*100", 999900);
         sum("9999*1000", 1000000);
         sum("9999*9999-1", 999999);
@@ -84,6 +131,8 @@ public final class RulesTest {
     }
 
     private static void conditions() {
+        Due.term("CONDITION: TRUTHS with | between; TRUTH: UNITS with & between; UNIT: ! UNIT,"
+                + " ( CONDITION ), or SUM, one of = < >, SUM.");
         clauses("1=1?5;y:9", 5);
         clauses("1=2?5;y:9", 9);
         clauses("1<2?5", 5);
@@ -104,43 +153,105 @@ public final class RulesTest {
         clauses("!2>1?5;y:6", 6);
         clauses("!!(1<2&2>1)?5;y:6", 5);
         clauses("1=2&1=1|1=1?5;y:6", 5);
-        clauses("1+1=2&[3]*2>5?1=1;y:6".replace("1=1;", "4;"), 4);
-        clauses("4;y:6", 4);
-        clauses("1=2?1;y:1=3?2;y:1=1?3;y:4", 3);
+        clauses("1+1=2&[3]*2>5?4;y:6", 4);
+        clauses("!1=1&1=2?5;y:6", 6);
+        clauses("!(1=1&1=2)?5;y:6", 5);
+        clauses("!!!!!!1=1?5;y:6", 5);
+        clauses("((((((1=1))))))?5;y:6", 5);
+        clauses("0-1<0?5;y:6", 5);
+        clauses("0-1>0?5;y:6", 6);
+        clauses("1000*1000+1=1000*1000?5;y:6", 5);
+        clauses("1=1|1=2|1=2?5;y:6", 5);
+        clauses("1=2|1=2|1=1?5;y:6", 5);
+        clauses("1=1&1=1&1=2?5;y:6", 6);
+        clauses("1=2&1=1&1=1?5;y:6", 6);
     }
 
-    /** What the clauses are worth, told by f's of the only one known. */
+    private static void clausesInOrder() {
+        Due.term("WORTH: the SUM of the first CLAUSE whose CONDITION holds (or has none), 0"
+                + " without.");
+        clauses("4;y:6", 4);
+        clauses("1=1?4;y:6", 4);
+        clauses("1=2?4;y:6", 6);
+        clauses("1=2?1;y:1=3?2;y:1=1?3;y:4", 3);
+        clauses("1=2?1;y:1=3?2;y:5;y:4", 5);
+        clauses("1=2?1;y:3;y:1=1?4", 3);
+        clauses("1=2?9", 0);
+        clauses("1=2?9;y:2=3?9;y:3=4?9", 0);
+        clauses("1=2?9;y:0-3", -3);
+    }
+
+    /** What the clauses are worth for c; b, told by its a, is worth as much, or one more. */
     private static void clauses(String clauses, int due) {
         SevenTown town = Due.town(4, "ab,ac,bd,cd");
-        Due.same("rule " + clauses, Due.text(town, 1, "y:!a=2?" + due + ";y:" + clauses), 0);
-        Due.same(clauses + " is not less", town.send(0, 0, 3, 1), 1);
-        Due.same("rule " + clauses, Due.text(town, 1, "y:!a=2?" + (due + 1) + ";y:" + clauses), 1);
-        Due.same(clauses + " is not more", town.send(1, 0, 3, 1), 2);
+        Due.same("rule " + clauses, Due.text(town, 1, "y:!a=1?" + told(due) + ";y:" + clauses), 0);
+        Due.same(clauses + " is not more", town.send(0, 0, 3, 1), 1);
+        Due.same("rule " + clauses, Due.text(town, 1, "y:!a=1?" + told(due - 1) + ";y:" + clauses),
+                1);
+        Due.same(clauses + " is not less", town.send(1, 0, 3, 1), 2);
     }
 
-    private static void send() {
-        SevenTown town = Due.town(6, "ab,bc,cd,bd");
-        Due.same("greedy", Due.text(town, 1, "y:t*1000-a"), 0);
+    private static String told(int number) {
+        return number < 0 ? "0-" + -number : "" + number;
+    }
+
+    private static void promise28Send() {
+        Due.promise(28, "A LETTER: how many gifts (i NONE), who has it behind i gifts (0: from).");
+        Due.term("A LETTER goes from one to another one by a RULE: who has it and is not the one"
+                + " meant gives it to that one of those it KNOWS with the greatest WORTH (of several"
+                + " the lowest).");
+        SevenTown town = Due.town(6, "ab,bc,cd,bd", "y:t*1000-a");
         Due.same("a to d", town.send(0, 0, 3, -1), 2);
         Due.same("from", town.send(0, 0, 3, 0), 0);
         Due.same("behind one", town.send(0, 0, 3, 1), 1);
         Due.same("behind two", town.send(0, 0, 3, 2), 3);
-        Due.same("no third gift", town.send(0, 0, 3, 3), -1);
-        Due.same("no such gift", town.send(0, 0, 3, -2), -1);
-        Due.same("no such gift", town.send(0, 0, 3, Integer.MAX_VALUE), -1);
-        Due.same("alike", town.send(0, 2, 2, -1), -1);
-        Due.same("alike", town.send(0, 2, 2, 0), -1);
-        Due.same("no such one", town.send(0, 0, 6, -1), -1);
-        Due.same("no such one", town.send(0, -1, 0, 0), -1);
-        Due.same("no such rule", town.send(1, 0, 3, -1), -1);
-        Due.same("no such rule", town.send(-1, 0, 3, 0), -1);
-        Due.same("who knows nobody", town.send(0, 5, 0, -1), -1);
-        Due.same("has it at first", town.send(0, 5, 0, 0), 5);
-        Due.same("gives nothing", town.send(0, 5, 0, 1), -1);
-        Due.same("never comes", town.send(0, 0, 5, -1), -1);
+        Due.same("to one known", town.send(0, 1, 0, -1), 1);
+        Due.same("who knows nobody has it at first", town.send(0, 5, 0, 0), 5);
+        Due.same("greatest below 0", Due.text(town, 1, "y:0-9-k"), 1);
+        Due.same("c and d know two, a one", town.send(1, 1, 5, 1), 0);
+        Due.same("of several the lowest", Due.text(town, 1, "y:0-a/9"), 2);
+        Due.same("of several the lowest", town.send(2, 3, 0, 1), 1);
+        Due.same("not 0 to begin with", Due.text(town, 1, "y:0-1000*1000"), 3);
+        Due.same("the only one, worth the least there is", town.send(3, 0, 3, 1), 1);
+        SevenTown row = new SevenTown(20);
+        row.ring(1);
+        row.drop(0, 19);
+        Due.text(row, 1, "y:0-a");
+        Due.same("from end to end", row.send(0, 0, 19, -1), 19);
+        Due.same("the 19th gift", row.send(0, 0, 19, 19), 19);
+        Due.same("the 18th gift", row.send(0, 19, 0, 18), 1);
+    }
+
+    private static void promise28Refused() {
+        Due.promise(28, "NONE: it does not come (i NONE), no such ones, alike, no such gift.");
+        SevenTown town = Due.town(5, "ab,bc,cd,bd", "y:t*1000-a");
+        Due.same("never comes", town.send(0, 0, 4, -1), -1);
+        Due.same("who knows nobody", town.send(0, 4, 0, -1), -1);
+        Due.same("gives nothing", town.send(0, 4, 0, 1), -1);
+        for (int gift : new int[] {3, 4, 59, 60, 61, -2, -3, Integer.MIN_VALUE,
+                Integer.MAX_VALUE}) {
+            Due.refused(town, "gift " + gift, -1, () -> town.send(0, 0, 3, gift));
+        }
+        for (int gift : new int[] {-1, 0, 1}) {
+            Due.refused(town, "alike", -1, () -> town.send(0, 2, 2, gift));
+            Due.refused(town, "no such rule", -1, () -> town.send(1, 0, 3, gift));
+            Due.refused(town, "no such rule", -1, () -> town.send(-1, 0, 3, gift));
+        }
+        SevenTown other = Due.town(5, "ab,bc,cd,bd", "y:t*1000-a");
+        for (int one : NOBODY) {
+            Due.refused(other, "from " + one, -1, () -> other.send(0, one, 0, 0));
+            Due.refused(other, "to " + one, -1, () -> other.send(0, 0, one, 0));
+        }
+        for (int rule : new int[] {2, 5, 6, 32, Integer.MIN_VALUE, Integer.MAX_VALUE}) {
+            Due.refused(other, "rule " + rule, -1, () -> other.send(rule, 0, 3, 0));
+        }
+        Due.same("no rule at all", new SevenTown(3).send(0, 0, 1, 0), -1);
     }
 
     private static void sendByEachLetter() {
+        Due.term("Letters: t 1 if that is the one meant, f 1 if that KNOWS the one meant, k how"
+                + " many that KNOWS, c how many both KNOW, b how often it was there, a how far their"
+                + " numbers are apart (that one's and the one's meant).");
         SevenTown town = Due.town(7, "ab,ac,ad,be,cf,cg,dg,bc");
         Due.same("lowest", Due.text(town, 1, "y:0"), 0);
         Due.same("of several the lowest", town.send(0, 0, 6, 1), 1);
@@ -156,16 +267,26 @@ public final class RulesTest {
         Due.same("the nearest number", town.send(5, 0, 5, 1), 3);
     }
 
+    private static void howOften() {
+        SevenTown town = Due.town(6, "ab,bc,cd,de", "y:0-b");
+        Due.same("it was with a once: c is new", town.send(0, 0, 4, 2), 2);
+        Due.same("straight on", town.send(0, 0, 4, -1), 4);
+        SevenTown star = Due.town(5, "ab,ac,ad,de", "y:b=0?9;y:0-b");
+        Due.same("each once, then d, who gives it on", star.send(0, 1, 4, -1), 5);
+        Due.same("a again", star.send(0, 1, 4, 3), 0);
+        Due.same("anew for each letter", star.send(0, 1, 4, -1), 5);
+        Due.same("a has been twice", Due.text(star, 1, "y:b>1?9;y:0-a"), 1);
+        Due.same("b gives it back always", star.send(1, 1, 4, -1), 3);
+    }
+
     private static void sixtyGifts() {
+        Due.term("It comes, or not by 60 gifts, or if somebody KNOWS nobody.");
         SevenTown town = Due.town(6, "ab,bc,cd,de");
         Due.same("lowest", Due.text(town, 1, "y:0"), 0);
         Due.same("to and fro", town.send(0, 0, 4, -1), -1);
         Due.same("behind 59", town.send(0, 0, 4, 59), 1);
         Due.same("behind 60", town.send(0, 0, 4, 60), 0);
         Due.same("no 61st", town.send(0, 0, 4, 61), -1);
-        Due.same("least often", Due.text(town, 1, "y:0-b"), 1);
-        Due.same("it was with a once: c is new", town.send(1, 0, 4, 2), 2);
-        Due.same("straight on", town.send(1, 0, 4, -1), 4);
         // b gives to a till it was there too often: that at first is once, each second gift more
         SevenTown late = Due.town(3, "ab,bc");
         Due.same("29 times", Due.text(late, 1, "y:t=1?0-29;y:0-b"), 0);
@@ -178,53 +299,116 @@ public final class RulesTest {
         Due.same("58 gifts", late.send(2, 0, 2, -1), 58);
     }
 
-    private static void comes() {
-        SevenTown town = Due.town(5, "ab,bc,cd");
-        Due.same("greedy", Due.text(town, 1, "y:0-a"), 0);
+    private static void promise29Comes() {
+        Due.promise(29, "COMES (0), GIFTS (1).");
+        Due.term("COMES of a RULE: how many of all pairs (from, to, unlike) come; GIFTS of those"
+                + " together.");
+        SevenTown town = Due.town(5, "ab,bc,cd", "y:0-a");
         Due.same("all of four", town.comes(0, 0), 12);
         Due.same("gifts", town.comes(0, 1), 2 * (1 + 2 + 3 + 1 + 2 + 1));
         Due.same("lowest", Due.text(town, 1, "y:0"), 1);
         Due.same("those that go down, and a to b", town.comes(1, 0), 7);
         Due.same("gifts of those that come", town.comes(1, 1), 1 + 2 + 3 + 1 + 2 + 1 + 1);
-        Due.same("no such what", town.comes(0, 2), -1);
-        Due.same("no such what", town.comes(0, -1), -1);
-        Due.same("no such rule", town.comes(2, 0), -1);
-        Due.same("no such rule", town.comes(-1, 0), -1);
+        SevenTown alone = Due.town(20, "", "y:1");
+        Due.same("nobody knows anybody", alone.comes(0, 0), 0);
+        Due.same("no gifts", alone.comes(0, 1), 0);
+        alone.ring(1);
+        Due.same("round and round downwards", Due.text(alone, 1, "y:b=0?9"), 1);
+        Due.same("all come", alone.comes(1, 0), 380);
+        SevenTown two = Due.town(2, "ab", "y:0");
+        Due.same("both ways", two.comes(0, 0), 2);
+        Due.same("a gift each", two.comes(0, 1), 2);
     }
 
-    private static void deaths() {
-        SevenTown town = Due.town(4, "ab,bc,cd,da");
-        Due.text(town, 1, "y:0");
+    private static void promise29Refused() {
+        Due.promise(29, "NONE: no such ones.");
+        SevenTown town = Due.town(4, "ab", "y:0-a");
+        for (int what : new int[] {2, 3, -1, Integer.MIN_VALUE, Integer.MAX_VALUE}) {
+            Due.refused(town, "comes(0, " + what + ")", -1, () -> town.comes(0, what));
+        }
+        for (int rule : new int[] {1, 2, 6, 32, -1, Integer.MIN_VALUE, Integer.MAX_VALUE}) {
+            Due.refused(town, "comes(" + rule + ", 0)", -1, () -> town.comes(rule, 0));
+        }
+        Due.same("no rule at all", new SevenTown(3).comes(0, 0), -1);
+    }
+
+    private static void promise30Deaths() {
+        Due.promise(30, "YEARS go by: DEAD.");
+        Due.term("(1) for each by numbers a draw of 100: below DEATH: it dies: all its TIES go, its"
+                + " AGE becomes 0 (another one is born with its number; NEEDS stay); else its AGE (0"
+                + " at first) is 1 more.");
+        SevenTown town = Due.town(4, "ab,bc,cd,da", "y:0");
         town.need(0, 1, 9);
         Due.same("nobody dies", town.years(0, 0, 3, 1L), 0);
         Due.same("three years old", town.of(0, 3), 3);
         Due.same("ties stay", town.all(3), 4);
+        Due.same("all die each year", town.years(0, 100, 30, -5L), 120);
+        Due.same("no ties", town.all(3), 0);
+        for (int one = 0; one < 4; one++) {
+            Due.same("age", town.of(one, 3), 0);
+        }
+        Due.same("needs stay", town.count(3), 1);
+        town.tie(0, 1);
+        Due.same("a still needs b", town.value(0), 9);
+        SevenTown second = Due.town(3, "ab,bc,ac", "y:0");
+        second.years(0, 0, 2, 1L);
+        Due.same("one dies", second.years(0, 30, 1, seedFor(1)), 1);
+        Due.same("b", second.of(1, 3), 0);
+        Due.same("a", second.of(0, 3), 3);
+        Due.same("c", second.of(2, 3), 3);
+        Due.same("b's ties are gone", Due.knows(second, 1), 0);
+        Due.same("others' stay", Due.knows(second, 0), Due.bits(2));
+    }
+
+    private static void draws() {
+        Due.term("A draw of 100: x, at first the seed, becomes x times 6364136223846793005 and"
+                + " 1442695040888963407 (64 bits, going round); then (x shifted right by 33, without"
+                + " sign) modulo 100.");
         // x behind seed 0 is 1442695040888963407, shifted by 33 it is 167951807: 7, and then 24
-        SevenTown drawn = Due.town(2, "ab");
-        Due.text(drawn, 1, "y:0");
+        SevenTown drawn = Due.town(2, "ab", "y:0");
         Due.same("7 is not below 7", drawn.years(0, 7, 1, 0L), 0);
         Due.same("a is 1", drawn.of(0, 3), 1);
         Due.same("7 is below 8", drawn.years(0, 8, 1, 0L), 1);
         Due.same("a is born anew", drawn.of(0, 3), 0);
         Due.same("b is 2", drawn.of(1, 3), 2);
         Due.same("a's tie is gone", drawn.all(3), 0);
-        SevenTown second = Due.town(3, "ab,bc,ac");
-        Due.text(second, 1, "y:0");
-        Due.same("one dies", second.years(0, 30, 1, seedFor(1)), 1);
-        Due.same("b", second.of(1, 3), 0);
-        Due.same("b's ties are gone", Due.knows(second, 1), 0);
-        Due.same("others' stay", Due.knows(second, 0), Due.bits(2));
-        Due.same("all die each year", town.years(0, 100, 30, -5L), 120);
-        Due.same("no ties", town.all(3), 0);
-        Due.same("age", town.of(3, 3), 0);
-        Due.same("needs stay", town.count(3), 1);
-        SevenTown seeded = new SevenTown(20);
-        Due.text(seeded, 1, "y:0");
+        for (int draw : new int[] {0, 1, 50, 98, 99}) {
+            SevenTown town = Due.town(2, "ab", "y:0");
+            long seed = seedOf(draw);
+            town.years(0, draw, 1, seed);
+            Due.same(draw + " is not below " + draw, town.of(0, 3), 1);
+            town.years(0, draw + 1, 1, seed);
+            Due.same(draw + " is below " + (draw + 1), town.of(0, 3), 0);
+        }
+    }
+
+    /** A seed whose first draw is so much. */
+    private static long seedOf(int draw) {
+        for (long seed = 0; seed < 100000; seed++) {
+            if (dyingOf(draw, seed, 1) == 0 && dyingOf(draw + 1, seed, 1) == 1) {
+                return seed;
+            }
+        }
+        throw new IllegalStateException("no seed");
+    }
+
+    private static void dyingByOneSeed() {
+        Due.term("YEARS (1 .. 30) go by with one seed; DEAD: how many died in them.");
         long[] seeds = {0L, 1L, -1L, Long.MIN_VALUE, Long.MAX_VALUE, 123456789012345L};
         for (long seed : seeds) {
-            Due.same("one seed for all years", seeded.years(0, 30, 30, seed),
-                    dyingOf(30, seed, 600));
+            SevenTown town = Due.town(20, "", "y:0");
+            Due.same("one year", town.years(0, 30, 1, seed), dyingOf(30, seed, 20));
+            Due.same("two years", town.years(0, 30, 2, seed), dyingOf(30, seed, 40));
+            Due.same("thirty years", town.years(0, 30, 30, seed), dyingOf(30, seed, 600));
+            Due.same("with the seed anew", town.years(0, 99, 30, seed), dyingOf(99, seed, 600));
+            Due.same("one of a hundred", town.years(0, 1, 30, seed), dyingOf(1, seed, 600));
         }
+        SevenTown all = Due.town(20, "", "y:1");
+        Due.same("all of thirty years", all.years(0, 100, 30, 9L), 600);
+        Due.same("none of thirty years", all.years(0, 0, 30, 9L), 0);
+        Due.same("30", all.of(19, 3), 30);
+        Due.same("one more", all.years(0, 0, 1, 9L), 0);
+        Due.same("31", all.of(19, 3), 31);
     }
 
     private static int dyingOf(int death, long seed, int draws) {
@@ -252,10 +436,18 @@ public final class RulesTest {
     }
 
     private static void births() {
+        Due.term("(2) Each by numbers looks at all it does not KNOW, that have fewer TIES than"
+                + " MOST: that with the greatest WORTH (of several the lowest) is taken, if WORTH is"
+                + " above 0 and it has fewer TIES than MOST itself; if it has not: if that WORTH is"
+                + " greater than the least WORTH of those it KNOWS (of several the lowest) and COST"
+                + " together, it drops that and takes the other one (MOST 0: nothing).");
         SevenTown town = new SevenTown(4);
         Due.same("one", Due.text(town, 1, "y:1"), 0);
         Due.same("nothing", Due.text(town, 1, "y:0"), 1);
         Due.same("not above 0", town.years(1, 0, 2, 1L), 0);
+        Due.same("no ties", town.all(3), 0);
+        Due.same("below 0", Due.text(town, 1, "y:0-1"), 2);
+        Due.same("not above 0", town.years(2, 0, 2, 1L), 0);
         Due.same("no ties", town.all(3), 0);
         town.years(0, 0, 1, 1L);
         Due.same("a takes b, b takes c, c takes a, d takes a", town.all(3), 4);
@@ -273,7 +465,27 @@ public final class RulesTest {
         Due.same("c takes d, b is full", Due.knows(narrow, 2), Due.bits(1, 3));
     }
 
+    private static void asItIsThen() {
+        Due.term("All as it is then.");
+        SevenTown town = Due.town(3, "", "y:1-k");
+        town.years(0, 0, 1, 1L);
+        Due.same("a takes b, b takes c, c knows both", Due.knows(town, 1), Due.bits(0, 2));
+        Due.same("a has one by then", Due.knows(town, 0), Due.bits(1));
+        SevenTown born = Due.town(3, "ab", "y:o");
+        born.years(0, 30, 1, seedFor(1));
+        Due.same("all deaths come first: a and c are 1, b is 0", Due.knows(born, 0), Due.bits(1, 2));
+        Due.same("b looks: both are 1, a is lower", Due.knows(born, 1), Due.bits(0));
+        SevenTown all = Due.town(3, "ab,bc,ca", "y:1+k");
+        Due.same("all die", all.years(0, 100, 1, 3L), 3);
+        Due.same("none of the old ties: a takes b, b takes c, c takes a", all.all(3), 3);
+        Due.same("no ages", Due.text(all, 1, "y:o"), 1);
+        Due.same("all die", all.years(1, 100, 1, 3L), 3);
+        Due.same("all are 0", all.all(3), 0);
+    }
+
     private static void birthsByEachLetter() {
+        Due.term("Letters: d FAR (0 without a way), k how many that KNOWS, c how many both KNOW, o"
+                + " its AGE, r how many more it might KNOW.");
         birth("y:d", "bc,ad,de", Due.bits(3, 4));
         birth("y:1-d", "bc,ad,de", Due.bits(1, 3));
         birth("y:1+k", "bc,cd,ae", Due.bits(2, 4));
@@ -291,6 +503,10 @@ public final class RulesTest {
         old.years(1, 0, 1, 7L);
         Due.same("ten years old: b, c, d are new to those who take them, a is to d",
                 Due.knows(old, 0), Due.bits(1, 3));
+    }
+
+    private static void lettersNotTold() {
+        Due.term("Letters that are not told of what is asked are 0.");
         SevenTown letters = Due.town(4, "bc");
         Due.text(letters, 1, "y:a+f+b+9");
         letters.send(0, 1, 3, -1);
@@ -321,7 +537,12 @@ public final class RulesTest {
         Due.same(rule + " takes nobody in " + net, town.all(3), ties);
     }
 
-    private static void full() {
+    private static void fullAndCost() {
+        Due.term("(2) Each by numbers looks at all it does not KNOW, that have fewer TIES than"
+                + " MOST: that with the greatest WORTH (of several the lowest) is taken, if WORTH is"
+                + " above 0 and it has fewer TIES than MOST itself; if it has not: if that WORTH is"
+                + " greater than the least WORTH of those it KNOWS (of several the lowest) and COST"
+                + " together, it drops that and takes the other one (MOST 0: nothing).");
         SevenTown town = Due.town(5, "ab,cd,ce");
         for (int i = 1; i < 5; i++) {
             town.most(i, i == 2 ? 4 : 2);
@@ -335,6 +556,24 @@ public final class RulesTest {
         town.years(0, 0, 1, 1L);
         Due.same("b goes for c, though c is worth less than 0", Due.knows(town, 0), Due.bits(2));
         Due.same("b", Due.knows(town, 1) & 1, 0);
+        for (int cost = 0; cost < 2; cost++) {
+            SevenTown far = Due.town(3, "ab,bc", "y:d");
+            far.most(0, 1);
+            far.most(1, 2);
+            far.cost(cost);
+            far.years(0, 0, 1, 1L);
+            Due.same("2 away is more than 1 and 0, not than 1 and 1", Due.knows(far, 0),
+                    cost == 0 ? Due.bits(2) : Due.bits(1));
+        }
+        SevenTown same = Due.town(3, "ab", "y:5");
+        same.most(0, 1);
+        same.most(1, 1);
+        same.most(2, 1);
+        same.years(0, 0, 1, 1L);
+        Due.same("5 is not greater than 5", Due.knows(same, 0), Due.bits(1));
+    }
+
+    private static void fullAndSeveral() {
         SevenTown lowest = Due.town(5, "ab,ac");
         lowest.most(0, 2);
         lowest.most(4, 1);
@@ -354,6 +593,9 @@ public final class RulesTest {
         middle.cost(9);
         middle.years(0, 0, 1, 1L);
         Due.same("c, with one tie, goes for e, with two", Due.knows(middle, 0), Due.bits(1, 3, 4));
+    }
+
+    private static void mostOfNothing() {
         SevenTown none = new SevenTown(3);
         for (int i = 0; i < 3; i++) {
             none.most(i, 0);
@@ -361,20 +603,31 @@ public final class RulesTest {
         Due.text(none, 1, "y:9");
         Due.same("most 0: nothing", none.years(0, 0, 30, 1L), 0);
         Due.same("no ties", none.all(3), 0);
+        none.most(2, 1);
+        none.years(0, 0, 1, 1L);
+        Due.same("nobody that c might take", none.all(3), 0);
+        none.most(0, 1);
+        none.years(0, 0, 1, 1L);
+        Due.same("a takes c", Due.knows(none, 0), Due.bits(2));
+        Due.same("b has none still", Due.knows(none, 1), 0);
     }
 
-    private static void refused() {
-        SevenTown town = Due.town(4, "ab");
-        Due.text(town, 1, "y:1");
-        Due.same("no such rule", town.years(1, 0, 1, 1L), -1);
-        Due.same("no such rule", town.years(-1, 0, 1, 1L), -1);
-        Due.same("death below", town.years(0, -1, 1, 1L), -1);
-        Due.same("death above", town.years(0, 101, 1, 1L), -1);
-        Due.same("no years", town.years(0, 0, 0, 1L), -1);
-        Due.same("31 years", town.years(0, 0, 31, 1L), -1);
-        Due.same("nothing changed", town.all(3), 1);
-        Due.same("nobody older", town.of(0, 3), 0);
+    private static void promise30Refused() {
+        Due.promise(30, "NONE: no such RULE, out of bounds.");
+        Due.term("A YEAR by a RULE, a DEATH (0 .. 100) and a seed:");
+        SevenTown town = Due.town(4, "ab", "y:1");
+        for (int rule : new int[] {1, 2, 6, 32, -1, Integer.MIN_VALUE, Integer.MAX_VALUE}) {
+            Due.refused(town, "rule " + rule, -1, () -> town.years(rule, 0, 1, 1L));
+        }
+        for (int death : new int[] {-1, 101, 200, Integer.MIN_VALUE, Integer.MAX_VALUE}) {
+            Due.refused(town, "death " + death, -1, () -> town.years(0, death, 1, 1L));
+        }
+        for (int n : new int[] {0, -1, 31, 32, Integer.MIN_VALUE, Integer.MAX_VALUE}) {
+            Due.refused(town, "years " + n, -1, () -> town.years(0, 0, n, 1L));
+        }
+        Due.same("one year", town.years(0, 100, 1, 1L), 4);
         Due.same("30 years", town.years(0, 0, 30, 1L), 0);
         Due.same("30 years old", town.of(0, 3), 30);
+        Due.same("no rule at all", new SevenTown(3).years(0, 0, 1, 1L), -1);
     }
 }
