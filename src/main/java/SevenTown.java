@@ -514,7 +514,7 @@ public final class SevenTown {
         }
 
         boolean full(int one) {
-            return degree(one) >= limit[one];
+            return Integer.bitCount(ties[one]) >= limit[one];
         }
 
         void join(int one, int other) {
@@ -1478,7 +1478,10 @@ public final class SevenTown {
         }
 
         private static int bounded(long value) {
-            return (int) Math.max(-FARTHEST, Math.min(FARTHEST, value));
+            if (value > FARTHEST) {
+                return FARTHEST;
+            }
+            return value < -FARTHEST ? -FARTHEST : (int) value;
         }
     }
 

@@ -54,6 +54,13 @@ final class Due {
         refused(town, call, 0, () -> made.getAsBoolean() ? 1 : 0);
     }
 
+    /** Calls that are refused, one behind the other: together they leave everything as it was. */
+    static void unchanged(SevenTown town, Runnable calls) {
+        String ahead = Look.all(town);
+        calls.run();
+        yes("what is refused changes nothing", Look.all(town).equals(ahead));
+    }
+
     /** Ends the test with 1 if an answer was not as due. */
     static void report() {
         System.out.println(looked + " answers, " + wrong + " wrong");

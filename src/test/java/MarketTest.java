@@ -37,8 +37,8 @@ public final class MarketTest {
 
     private static void promise20Need() {
         Due.promise(20, "A NEED (0: it is gone).");
-        Due.term("NEEDS (60 at most): one needs another one so much (1 .. 99); anew instead of that"
-                + " ahead.");
+        Due.term("NEEDS (60 at most): one needs another one so much (1 .. 99); anew instead of"
+                + " that ahead.");
         SevenTown town = Due.town(4, "ab,bc");
         Due.yes("the least", town.need(0, 1, 1));
         Due.same("1", town.value(0), 1);
@@ -69,15 +69,19 @@ public final class MarketTest {
         town.need(0, 1, 9);
         Due.refused(town, "alike", () -> town.need(1, 1, 5));
         Due.refused(town, "alike, to be gone", () -> town.need(1, 1, 0));
-        for (int one : NOBODY) {
-            Due.refused(town, "need(" + one + ", 0, 5)", () -> town.need(one, 0, 5));
-            Due.refused(town, "need(0, " + one + ", 5)", () -> town.need(0, one, 5));
-            Due.refused(town, "need(0, " + one + ", 0)", () -> town.need(0, one, 0));
-        }
-        for (int much : new int[] {-1, -99, 100, 101, Integer.MIN_VALUE, Integer.MAX_VALUE}) {
-            Due.refused(town, "need(0, 1, " + much + ")", () -> town.need(0, 1, much));
-            Due.refused(town, "need(0, 2, " + much + ")", () -> town.need(0, 2, much));
-        }
+        Due.unchanged(town, () -> {
+            for (int one : NOBODY) {
+                Due.no("need(" + one + ", 0, 5)", town.need(one, 0, 5));
+                Due.no("need(0, " + one + ", 5)", town.need(0, one, 5));
+                Due.no("need(0, " + one + ", 0)", town.need(0, one, 0));
+            }
+        });
+        Due.unchanged(town, () -> {
+            for (int much : new int[] {-1, -99, 100, 101, Integer.MIN_VALUE, Integer.MAX_VALUE}) {
+                Due.no("need(0, 1, " + much + ")", town.need(0, 1, much));
+                Due.no("need(0, 2, " + much + ")", town.need(0, 2, much));
+            }
+        });
     }
 
     private static void promise20Sixty() {
@@ -140,9 +144,11 @@ public final class MarketTest {
         Due.promise(21, "NONE: no such one.");
         SevenTown four = Due.town(4, "ab");
         four.need(0, 1, 9);
-        for (int one : NOBODY) {
-            Due.refused(four, "value(" + one + ")", -1, () -> four.value(one));
-        }
+        Due.unchanged(four, () -> {
+            for (int one : NOBODY) {
+                Due.same("value(" + one + ")", four.value(one), -1);
+            }
+        });
     }
 
     private static void promise22Cost() {
@@ -155,9 +161,11 @@ public final class MarketTest {
             Due.same("cost", town.count(4), v);
         }
         Due.promise(22, "False: out of bounds.");
-        for (int v : new int[] {-1, -99, 100, 101, Integer.MIN_VALUE, Integer.MAX_VALUE}) {
-            Due.refused(town, "cost(" + v + ")", () -> town.cost(v));
-        }
+        Due.unchanged(town, () -> {
+            for (int v : new int[] {-1, -99, 100, 101, Integer.MIN_VALUE, Integer.MAX_VALUE}) {
+                Due.no("cost(" + v + ")", town.cost(v));
+            }
+        });
     }
 
     /** A row of four, of whom the ends need each other. */
@@ -186,37 +194,41 @@ public final class MarketTest {
 
     private static void promise23Hidden() {
         Due.promise(23, "HIDDEN: it can't be, no such ones.");
-        Due.term("A CHANGE by one: it drops one that it knows, or nobody; it takes one it does not"
-                + " know, not itself, who drops one it knows, or nobody.");
+        Due.term("A CHANGE by one: it drops one that it knows, or nobody; it takes one it does"
+                + " not know, not itself, who drops one it knows, or nobody.");
         SevenTown town = ends();
-        hidden(town, 0, -1, 0, -1);
-        hidden(town, 3, -1, 3, -1);
-        hidden(town, 0, -1, 1, -1);
-        hidden(town, 0, 1, 1, -1);
-        hidden(town, 0, 2, 3, -1);
-        hidden(town, 0, 3, 3, -1);
-        hidden(town, 0, 0, 3, -1);
-        hidden(town, 0, -1, 3, 1);
-        hidden(town, 0, -1, 3, 3);
-        hidden(town, 0, -1, 3, 0);
-        hidden(town, -1, -1, 3, -1);
-        hidden(town, 0, -1, -1, -1);
-        hidden(town, -1, -1, -1, -1);
-        hidden(town, 0, -2, 3, -1);
-        hidden(town, 0, -1, 3, -2);
-        for (int one : NOBODY) {
-            hidden(town, one, -1, 3, -1);
-            hidden(town, 0, -1, one, -1);
-            if (one != -1) {
-                hidden(town, 0, one, 3, -1);
-                hidden(town, 0, -1, 3, one);
-                hidden(town, 1, one, 3, -1);
-                hidden(town, 3, -1, 1, one);
+        Due.unchanged(town, () -> {
+            hidden(town, 0, -1, 0, -1);
+            hidden(town, 3, -1, 3, -1);
+            hidden(town, 0, -1, 1, -1);
+            hidden(town, 0, 1, 1, -1);
+            hidden(town, 0, 2, 3, -1);
+            hidden(town, 0, 3, 3, -1);
+            hidden(town, 0, 0, 3, -1);
+            hidden(town, 0, -1, 3, 1);
+            hidden(town, 0, -1, 3, 3);
+            hidden(town, 0, -1, 3, 0);
+            hidden(town, -1, -1, 3, -1);
+            hidden(town, 0, -1, -1, -1);
+            hidden(town, -1, -1, -1, -1);
+            hidden(town, 0, -2, 3, -1);
+            hidden(town, 0, -1, 3, -2);
+            for (int one : NOBODY) {
+                hidden(town, one, -1, 3, -1);
+                hidden(town, 0, -1, one, -1);
+                if (one != -1) {
+                    hidden(town, 0, one, 3, -1);
+                    hidden(town, 0, -1, 3, one);
+                    hidden(town, 1, one, 3, -1);
+                    hidden(town, 3, -1, 1, one);
+                }
             }
-        }
-        for (int side : new int[] {2, 3, -1, Integer.MIN_VALUE, Integer.MAX_VALUE}) {
-            Due.refused(town, "side " + side, -1000000, () -> town.gain(0, -1, 3, -1, side));
-        }
+        });
+        Due.unchanged(town, () -> {
+            for (int side : new int[] {2, 3, -1, Integer.MIN_VALUE, Integer.MAX_VALUE}) {
+                Due.same("side " + side, town.gain(0, -1, 3, -1, side), -1000000);
+            }
+        });
     }
 
     private static void hidden(SevenTown town, int one, int drops, int takes, int theirs) {
@@ -224,7 +236,7 @@ public final class MarketTest {
         for (int side = 0; side < 2; side++) {
             Due.same("gain" + change, town.gain(one, drops, takes, theirs, side), -1000000);
         }
-        Due.refused(town, "change" + change, () -> town.change(one, drops, takes, theirs));
+        Due.no("change" + change, town.change(one, drops, takes, theirs));
     }
 
     private static void promise23Most() {
@@ -232,21 +244,25 @@ public final class MarketTest {
         Due.term("It can be, if nobody has more than MOST then.");
         SevenTown town = ends();
         town.most(0, 1);
-        hidden(town, 0, -1, 3, -1);
-        hidden(town, 3, -1, 0, -1);
-        hidden(town, 0, -1, 3, 2);
+        Due.unchanged(town, () -> {
+            hidden(town, 0, -1, 3, -1);
+            hidden(town, 3, -1, 0, -1);
+            hidden(town, 0, -1, 3, 2);
+        });
         Due.same("full but drops", town.gain(0, 1, 3, -1, 0), 30);
         Due.same("full but drops, the other way", town.gain(3, -1, 0, 1, 1), 30);
         town.most(3, 1);
-        hidden(town, 0, 1, 3, -1);
+        Due.unchanged(town, () -> hidden(town, 0, 1, 3, -1));
         Due.same("both drop", town.gain(0, 1, 3, 2, 1), 15);
         Due.same("both drop", town.gain(0, 1, 3, 2, 0), 30);
         town.most(0, 2);
         Due.same("the other drops", town.gain(0, -1, 3, 2, 1), 15);
         SevenTown none = new SevenTown(3);
         none.most(2, 0);
-        hidden(none, 0, -1, 2, -1);
-        hidden(none, 2, -1, 0, -1);
+        Due.unchanged(none, () -> {
+            hidden(none, 0, -1, 2, -1);
+            hidden(none, 2, -1, 0, -1);
+        });
         Due.same("one may be, of two alone", none.gain(0, -1, 1, -1, 0), 0);
     }
 
@@ -359,26 +375,31 @@ public final class MarketTest {
         Due.same("nothing is changed", town.all(3), 3);
         Due.promise(25, "HIDDEN: none, no such ones.");
         Due.refused(town, "b needs nobody", -1000000, () -> town.best(1, 0));
-        for (int what : new int[] {4, 5, -1, Integer.MIN_VALUE, Integer.MAX_VALUE}) {
-            Due.refused(town, "best(0, " + what + ")", -1000000, () -> town.best(0, what));
-        }
-        for (int one : NOBODY) {
-            Due.refused(town, "best(" + one + ", 0)", -1000000, () -> town.best(one, 0));
-        }
+        Due.unchanged(town, () -> {
+            for (int what : new int[] {4, 5, -1, Integer.MIN_VALUE, Integer.MAX_VALUE}) {
+                Due.same("best(0, " + what + ")", town.best(0, what), -1000000);
+            }
+        });
+        Due.unchanged(town, () -> {
+            for (int one : NOBODY) {
+                Due.same("best(" + one + ", 0)", town.best(one, 0), -1000000);
+            }
+        });
         town.cost(14);
         Due.same("the other one gains 1", town.best(0, 3), 16);
         town.cost(15);
-        for (int what = 0; what < 4; what++) {
-            int asked = what;
-            Due.refused(town, "the other one gains 0", -1000000, () -> town.best(0, asked));
-        }
+        Due.unchanged(town, () -> {
+            for (int what = 0; what < 4; what++) {
+                Due.same("the other one gains 0", town.best(0, what), -1000000);
+            }
+        });
         Due.same("of two apart", new SevenTown(2).best(0, 0), -1000000);
     }
 
     private static void bestOfSeveral() {
         Due.term("BEST of one: the WANTED CHANGE with its greatest GAIN; of several that with the"
-                + " lowest taken, then the one it drops (nobody first), then the one the other drops"
-                + " (likewise).");
+                + " lowest taken, then the one it drops (nobody first), then the one the other"
+                + " drops (likewise).");
         SevenTown town = new SevenTown(6);
         for (int i = 1; i < 6; i++) {
             town.need(i, 0, 10);
@@ -424,8 +445,8 @@ public final class MarketTest {
 
     private static void promise26Turn() {
         Due.promise(26, "TURNS.");
-        Due.term("TURNS: from 0 on, round and round, each makes its BEST, till a whole round makes"
-                + " none: how many; more than 40: a RING (all TIES as ahead of it).");
+        Due.term("TURNS: from 0 on, round and round, each makes its BEST, till a whole round"
+                + " makes none: how many; more than 40: a RING (all TIES as ahead of it).");
         SevenTown town = new SevenTown(4);
         Due.same("nobody needs", town.turn(), 0);
         for (int i = 0; i < 4; i++) {
@@ -473,8 +494,8 @@ public final class MarketTest {
 
     /** Towns by chance that come to rest behind so many changes (44: they may go on for ever). */
     private static void fortyTurns(int seed, int due) {
-        Due.term("TURNS: from 0 on, round and round, each makes its BEST, till a whole round makes"
-                + " none: how many; more than 40: a RING (all TIES as ahead of it).");
+        Due.term("TURNS: from 0 on, round and round, each makes its BEST, till a whole round"
+                + " makes none: how many; more than 40: a RING (all TIES as ahead of it).");
         SevenTown town = chanceTown(seed);
         int people = town.count(0);
         int calls = 100;

@@ -20,7 +20,7 @@ public final class RefusedTest {
 
     public static void main(String[] args) {
         Due.term("What is refused answers as told and changes nothing.");
-        for (int seed = 0; seed < 12000; seed++) {
+        for (int seed = 0; seed < 5000; seed++) {
             new RefusedTest(seed).run();
         }
         Due.report();

@@ -72,8 +72,8 @@ public final class RulesTest {
         sum("9999", 9999);
         sum("[[[[[[8]]]]]]", 8);
         Due.term("Letters: t 1 if that is the one meant, f 1 if that KNOWS the one meant, k how"
-                + " many that KNOWS, c how many both KNOW, b how often it was there, a how far their"
-                + " numbers are apart (that one's and the one's meant).");
+                + " many that KNOWS, c how many both KNOW, b how often it was there, a how far"
+                + " their numbers are apart (that one's and the one's meant).");
         sum("t", 0);
         sum("f", 1);
         sum("k", 2);
@@ -87,8 +87,8 @@ public final class RulesTest {
     }
 
     private static void bounds() {
-        Due.term("Behind each sign numbers are within -1,000,000 .. 1,000,000; / cuts towards 0, by"
-                + " 0 gives 0.");
+        Due.term("Behind each sign numbers are within -1,000,000 .. 1,000,000; / cuts towards 0,"
+                + " by 0 gives 0.");
         sum("7/2", 3);
         sum("8/2", 4);
         sum("1/2", 0);
@@ -131,8 +131,8 @@ public final class RulesTest {
     }
 
     private static void conditions() {
-        Due.term("CONDITION: TRUTHS with | between; TRUTH: UNITS with & between; UNIT: ! UNIT,"
-                + " ( CONDITION ), or SUM, one of = < >, SUM.");
+        Due.term("CONDITION: TRUTHS with | between; TRUTH: UNITS with & between; UNIT: ! UNIT, ("
+                + " CONDITION ), or SUM, one of = < >, SUM.");
         clauses("1=1?5;y:9", 5);
         clauses("1=2?5;y:9", 9);
         clauses("1<2?5", 5);
@@ -165,6 +165,16 @@ public final class RulesTest {
         clauses("1=2|1=2|1=1?5;y:6", 5);
         clauses("1=1&1=1&1=2?5;y:6", 6);
         clauses("1=2&1=1&1=1?5;y:6", 6);
+        clauses("1=2|(1=1)?5;y:6", 5);
+        clauses("1=1|(1=2)?5;y:6", 5);
+        clauses("1=1&(1=2)?5;y:6", 6);
+        clauses("1=2&(1=1)?5;y:6", 6);
+        clauses("1=1&(1=2|1=1)?5;y:6", 5);
+        clauses("1=2&(1=2|1=1)?5;y:6", 6);
+        clauses("1=2|(1=1&1=1)|1=2?5;y:6", 5);
+        clauses("1=1&!(1=1&1=2)&1=1?5;y:6", 5);
+        clauses("1=2|1=1&(1=2|1=1)?5;y:6", 5);
+        clauses("1=2|1=1&(1=2|1=2)?5;y:6", 6);
     }
 
     private static void clausesInOrder() {
@@ -198,8 +208,8 @@ public final class RulesTest {
     private static void promise28Send() {
         Due.promise(28, "A LETTER: how many gifts (i NONE), who has it behind i gifts (0: from).");
         Due.term("A LETTER goes from one to another one by a RULE: who has it and is not the one"
-                + " meant gives it to that one of those it KNOWS with the greatest WORTH (of several"
-                + " the lowest).");
+                + " meant gives it to that one of those it KNOWS with the greatest WORTH (of"
+                + " several the lowest).");
         SevenTown town = Due.town(6, "ab,bc,cd,bd", "y:t*1000-a");
         Due.same("a to d", town.send(0, 0, 3, -1), 2);
         Due.same("from", town.send(0, 0, 3, 0), 0);
@@ -228,30 +238,38 @@ public final class RulesTest {
         Due.same("never comes", town.send(0, 0, 4, -1), -1);
         Due.same("who knows nobody", town.send(0, 4, 0, -1), -1);
         Due.same("gives nothing", town.send(0, 4, 0, 1), -1);
-        for (int gift : new int[] {3, 4, 59, 60, 61, -2, -3, Integer.MIN_VALUE,
-                Integer.MAX_VALUE}) {
-            Due.refused(town, "gift " + gift, -1, () -> town.send(0, 0, 3, gift));
-        }
-        for (int gift : new int[] {-1, 0, 1}) {
-            Due.refused(town, "alike", -1, () -> town.send(0, 2, 2, gift));
-            Due.refused(town, "no such rule", -1, () -> town.send(1, 0, 3, gift));
-            Due.refused(town, "no such rule", -1, () -> town.send(-1, 0, 3, gift));
-        }
+        int[] gifts = {3, 4, 59, 60, 61, -2, -3, Integer.MIN_VALUE, Integer.MAX_VALUE};
+        Due.unchanged(town, () -> {
+            for (int gift : gifts) {
+                Due.same("gift " + gift, town.send(0, 0, 3, gift), -1);
+            }
+        });
+        Due.unchanged(town, () -> {
+            for (int gift : new int[] {-1, 0, 1}) {
+                Due.same("alike", town.send(0, 2, 2, gift), -1);
+                Due.same("no such rule", town.send(1, 0, 3, gift), -1);
+                Due.same("no such rule", town.send(-1, 0, 3, gift), -1);
+            }
+        });
         SevenTown other = Due.town(5, "ab,bc,cd,bd", "y:t*1000-a");
-        for (int one : NOBODY) {
-            Due.refused(other, "from " + one, -1, () -> other.send(0, one, 0, 0));
-            Due.refused(other, "to " + one, -1, () -> other.send(0, 0, one, 0));
-        }
-        for (int rule : new int[] {2, 5, 6, 32, Integer.MIN_VALUE, Integer.MAX_VALUE}) {
-            Due.refused(other, "rule " + rule, -1, () -> other.send(rule, 0, 3, 0));
-        }
+        Due.unchanged(other, () -> {
+            for (int one : NOBODY) {
+                Due.same("from " + one, other.send(0, one, 0, 0), -1);
+                Due.same("to " + one, other.send(0, 0, one, 0), -1);
+            }
+        });
+        Due.unchanged(other, () -> {
+            for (int rule : new int[] {2, 5, 6, 32, Integer.MIN_VALUE, Integer.MAX_VALUE}) {
+                Due.same("rule " + rule, other.send(rule, 0, 3, 0), -1);
+            }
+        });
         Due.same("no rule at all", new SevenTown(3).send(0, 0, 1, 0), -1);
     }
 
     private static void sendByEachLetter() {
         Due.term("Letters: t 1 if that is the one meant, f 1 if that KNOWS the one meant, k how"
-                + " many that KNOWS, c how many both KNOW, b how often it was there, a how far their"
-                + " numbers are apart (that one's and the one's meant).");
+                + " many that KNOWS, c how many both KNOW, b how often it was there, a how far"
+                + " their numbers are apart (that one's and the one's meant).");
         SevenTown town = Due.town(7, "ab,ac,ad,be,cf,cg,dg,bc");
         Due.same("lowest", Due.text(town, 1, "y:0"), 0);
         Due.same("of several the lowest", town.send(0, 0, 6, 1), 1);
@@ -323,20 +341,24 @@ public final class RulesTest {
     private static void promise29Refused() {
         Due.promise(29, "NONE: no such ones.");
         SevenTown town = Due.town(4, "ab", "y:0-a");
-        for (int what : new int[] {2, 3, -1, Integer.MIN_VALUE, Integer.MAX_VALUE}) {
-            Due.refused(town, "comes(0, " + what + ")", -1, () -> town.comes(0, what));
-        }
-        for (int rule : new int[] {1, 2, 6, 32, -1, Integer.MIN_VALUE, Integer.MAX_VALUE}) {
-            Due.refused(town, "comes(" + rule + ", 0)", -1, () -> town.comes(rule, 0));
-        }
+        Due.unchanged(town, () -> {
+            for (int what : new int[] {2, 3, -1, Integer.MIN_VALUE, Integer.MAX_VALUE}) {
+                Due.same("comes(0, " + what + ")", town.comes(0, what), -1);
+            }
+        });
+        Due.unchanged(town, () -> {
+            for (int rule : new int[] {1, 2, 6, 32, -1, Integer.MIN_VALUE, Integer.MAX_VALUE}) {
+                Due.same("comes(" + rule + ", 0)", town.comes(rule, 0), -1);
+            }
+        });
         Due.same("no rule at all", new SevenTown(3).comes(0, 0), -1);
     }
 
     private static void promise30Deaths() {
         Due.promise(30, "YEARS go by: DEAD.");
-        Due.term("(1) for each by numbers a draw of 100: below DEATH: it dies: all its TIES go, its"
-                + " AGE becomes 0 (another one is born with its number; NEEDS stay); else its AGE (0"
-                + " at first) is 1 more.");
+        Due.term("(1) for each by numbers a draw of 100: below DEATH: it dies: all its TIES go,"
+                + " its AGE becomes 0 (another one is born with its number; NEEDS stay); else its"
+                + " AGE (0 at first) is 1 more.");
         SevenTown town = Due.town(4, "ab,bc,cd,da", "y:0");
         town.need(0, 1, 9);
         Due.same("nobody dies", town.years(0, 0, 3, 1L), 0);
@@ -362,8 +384,8 @@ public final class RulesTest {
 
     private static void draws() {
         Due.term("A draw of 100: x, at first the seed, becomes x times 6364136223846793005 and"
-                + " 1442695040888963407 (64 bits, going round); then (x shifted right by 33, without"
-                + " sign) modulo 100.");
+                + " 1442695040888963407 (64 bits, going round); then (x shifted right by 33,"
+                + " without sign) modulo 100.");
         // x behind seed 0 is 1442695040888963407, shifted by 33 it is 167951807: 7, and then 24
         SevenTown drawn = Due.town(2, "ab", "y:0");
         Due.same("7 is not below 7", drawn.years(0, 7, 1, 0L), 0);
@@ -437,10 +459,11 @@ public final class RulesTest {
 
     private static void births() {
         Due.term("(2) Each by numbers looks at all it does not KNOW, that have fewer TIES than"
-                + " MOST: that with the greatest WORTH (of several the lowest) is taken, if WORTH is"
-                + " above 0 and it has fewer TIES than MOST itself; if it has not: if that WORTH is"
-                + " greater than the least WORTH of those it KNOWS (of several the lowest) and COST"
-                + " together, it drops that and takes the other one (MOST 0: nothing).");
+                + " MOST: that with the greatest WORTH (of several the lowest) is taken, if WORTH"
+                + " is above 0 and it has fewer TIES than MOST itself; if it has not: if that"
+                + " WORTH is greater than the least WORTH of those it KNOWS (of several the"
+                + " lowest) and COST together, it drops that and takes the other one (MOST 0:"
+                + " nothing).");
         SevenTown town = new SevenTown(4);
         Due.same("one", Due.text(town, 1, "y:1"), 0);
         Due.same("nothing", Due.text(town, 1, "y:0"), 1);
@@ -473,7 +496,8 @@ public final class RulesTest {
         Due.same("a has one by then", Due.knows(town, 0), Due.bits(1));
         SevenTown born = Due.town(3, "ab", "y:o");
         born.years(0, 30, 1, seedFor(1));
-        Due.same("all deaths come first: a and c are 1, b is 0", Due.knows(born, 0), Due.bits(1, 2));
+        Due.same("all deaths come first: a and c are 1, b is 0", Due.knows(born, 0),
+                Due.bits(1, 2));
         Due.same("b looks: both are 1, a is lower", Due.knows(born, 1), Due.bits(0));
         SevenTown all = Due.town(3, "ab,bc,ca", "y:1+k");
         Due.same("all die", all.years(0, 100, 1, 3L), 3);
@@ -484,12 +508,13 @@ public final class RulesTest {
     }
 
     private static void birthsByEachLetter() {
-        Due.term("Letters: d FAR (0 without a way), k how many that KNOWS, c how many both KNOW, o"
-                + " its AGE, r how many more it might KNOW.");
+        Due.term("Letters: d FAR (0 without a way), k how many that KNOWS, c how many both KNOW,"
+                + " o its AGE, r how many more it might KNOW.");
         birth("y:d", "bc,ad,de", Due.bits(3, 4));
         birth("y:1-d", "bc,ad,de", Due.bits(1, 3));
         birth("y:1+k", "bc,cd,ae", Due.bits(2, 4));
         birth("y:1+c", "ab,bd,be,ac,ce", Due.bits(1, 2, 4));
+        birth("y:1+c", "ab,be,cd", Due.bits(1, 4));
         nothing("y:c", "bc");
         birth("y:1+r", "bc,bd,ce", Due.bits(3));
         birth("y:o", "", Due.bits(1));
@@ -539,10 +564,11 @@ public final class RulesTest {
 
     private static void fullAndCost() {
         Due.term("(2) Each by numbers looks at all it does not KNOW, that have fewer TIES than"
-                + " MOST: that with the greatest WORTH (of several the lowest) is taken, if WORTH is"
-                + " above 0 and it has fewer TIES than MOST itself; if it has not: if that WORTH is"
-                + " greater than the least WORTH of those it KNOWS (of several the lowest) and COST"
-                + " together, it drops that and takes the other one (MOST 0: nothing).");
+                + " MOST: that with the greatest WORTH (of several the lowest) is taken, if WORTH"
+                + " is above 0 and it has fewer TIES than MOST itself; if it has not: if that"
+                + " WORTH is greater than the least WORTH of those it KNOWS (of several the"
+                + " lowest) and COST together, it drops that and takes the other one (MOST 0:"
+                + " nothing).");
         SevenTown town = Due.town(5, "ab,cd,ce");
         for (int i = 1; i < 5; i++) {
             town.most(i, i == 2 ? 4 : 2);
@@ -583,6 +609,15 @@ public final class RulesTest {
         Due.text(lowest, 1, "y:1-k");
         lowest.years(0, 0, 1, 1L);
         Due.same("of several the lowest goes", Due.knows(lowest, 0), Due.bits(2, 4));
+        SevenTown first = Due.town(4, "ab,ac,bd", "y:r");
+        first.most(0, 2);
+        first.most(1, 2);
+        first.most(3, 1);
+        first.cost(4);
+        first.years(0, 0, 1, 1L);
+        Due.same("of a and d, who are worth 0, a goes for c: 6 is more than 4, then 5 too",
+                Due.knows(first, 1), Due.bits(2));
+        Due.same("and b goes for c", Due.knows(first, 3), Due.bits(2));
         SevenTown middle = Due.town(6, "ab,ac,ad,be,bf,de");
         middle.most(0, 3);
         middle.most(4, 9);
@@ -616,15 +651,21 @@ public final class RulesTest {
         Due.promise(30, "NONE: no such RULE, out of bounds.");
         Due.term("A YEAR by a RULE, a DEATH (0 .. 100) and a seed:");
         SevenTown town = Due.town(4, "ab", "y:1");
-        for (int rule : new int[] {1, 2, 6, 32, -1, Integer.MIN_VALUE, Integer.MAX_VALUE}) {
-            Due.refused(town, "rule " + rule, -1, () -> town.years(rule, 0, 1, 1L));
-        }
-        for (int death : new int[] {-1, 101, 200, Integer.MIN_VALUE, Integer.MAX_VALUE}) {
-            Due.refused(town, "death " + death, -1, () -> town.years(0, death, 1, 1L));
-        }
-        for (int n : new int[] {0, -1, 31, 32, Integer.MIN_VALUE, Integer.MAX_VALUE}) {
-            Due.refused(town, "years " + n, -1, () -> town.years(0, 0, n, 1L));
-        }
+        Due.unchanged(town, () -> {
+            for (int rule : new int[] {1, 2, 6, 32, -1, Integer.MIN_VALUE, Integer.MAX_VALUE}) {
+                Due.same("rule " + rule, town.years(rule, 0, 1, 1L), -1);
+            }
+        });
+        Due.unchanged(town, () -> {
+            for (int death : new int[] {-1, 101, 200, Integer.MIN_VALUE, Integer.MAX_VALUE}) {
+                Due.same("death " + death, town.years(0, death, 1, 1L), -1);
+            }
+        });
+        Due.unchanged(town, () -> {
+            for (int n : new int[] {0, -1, 31, 32, Integer.MIN_VALUE, Integer.MAX_VALUE}) {
+                Due.same("years " + n, town.years(0, 0, n, 1L), -1);
+            }
+        });
         Due.same("one year", town.years(0, 100, 1, 1L), 4);
         Due.same("30 years", town.years(0, 0, 30, 1L), 0);
         Due.same("30 years old", town.of(0, 3), 30);

@@ -66,9 +66,11 @@ public final class SetsTest {
         SevenTown seven = Due.town(7, "ab,bc");
         int[] none = {0, 8, 9, 512, 1023, 1024, 1025, 1 << 20, -1, -1024, Integer.MIN_VALUE,
             Integer.MIN_VALUE | 1, Integer.MAX_VALUE};
-        for (int jumps : none) {
-            Due.refused(seven, "ring(" + jumps + ") of 7", -1, () -> seven.ring(jumps));
-        }
+        Due.unchanged(seven, () -> {
+            for (int jumps : none) {
+                Due.same("ring(" + jumps + ") of 7", seven.ring(jumps), -1);
+            }
+        });
         Due.same("half is not too much", seven.ring(4), 7);
         for (int people = 2; people <= 20; people++) {
             SevenTown town = new SevenTown(people);
@@ -78,6 +80,9 @@ public final class SetsTest {
                         2 * jump <= people && jump <= 10 ? ties : -1);
             }
         }
+        SevenTown first = new SevenTown(7);
+        first.most(0, 5);
+        Due.refused(first, "the first one would have six", -1, () -> first.ring(7));
         SevenTown full = new SevenTown(7);
         full.most(6, 5);
         Due.refused(full, "the last one would have six", -1, () -> full.ring(7));
@@ -110,13 +115,17 @@ public final class SetsTest {
         Due.same("its sum", new SevenTown(2).fine(1, 1), 1);
         Due.promise(32, "NONE: no such ones.");
         SevenTown town = Due.town(6, TAIL);
-        for (int many : new int[] {0, 4, 5, -1, Integer.MIN_VALUE, Integer.MAX_VALUE}) {
-            Due.refused(town, "fine(" + many + ", 0)", -1, () -> town.fine(many, 0));
-            Due.refused(town, "fine(" + many + ", 1)", -1, () -> town.fine(many, 1));
-        }
-        for (int what : NO_WHAT) {
-            Due.refused(town, "fine(1, " + what + ")", -1, () -> town.fine(1, what));
-        }
+        Due.unchanged(town, () -> {
+            for (int many : new int[] {0, 4, 5, -1, Integer.MIN_VALUE, Integer.MAX_VALUE}) {
+                Due.same("fine(" + many + ", 0)", town.fine(many, 0), -1);
+                Due.same("fine(" + many + ", 1)", town.fine(many, 1), -1);
+            }
+        });
+        Due.unchanged(town, () -> {
+            for (int what : NO_WHAT) {
+                Due.same("fine(1, " + what + ")", town.fine(1, what), -1);
+            }
+        });
         for (int what = 0; what < 2; what++) {
             Due.same("three for five", new SevenTown(5).fine(3, what), -1);
             Due.same("two for three", new SevenTown(3).fine(2, what), -1);
@@ -127,8 +136,8 @@ public final class SetsTest {
     }
 
     private static void promise32OfSeveral() {
-        Due.term("FINE of so many JUMPS (1 .. 3): of all RINGS with as many the one with the least"
-                + " SUM of one (of several the lowest bits).");
+        Due.term("FINE of so many JUMPS (1 .. 3): of all RINGS with as many the one with the"
+                + " least SUM of one (of several the lowest bits).");
         SevenTown eight = Due.town(8, "ab");
         eight.most(3, 1);
         // jumps 1 and 3: four are 1 away, three 2 away; 1 and 2: four, two, one 2 away too
@@ -146,9 +155,9 @@ public final class SetsTest {
 
     private static void promise33Bound() {
         Due.promise(33, "BOUND.");
-        Due.term("BOUND of so many TIES (1 .. 9): the least that a SUM can be, by counts: 1 away are"
-                + " as many at most, then each time as many times that less 1 (with 1 TIE none), till"
-                + " all are there (PEOPLE for each that can't be).");
+        Due.term("BOUND of so many TIES (1 .. 9): the least that a SUM can be, by counts: 1 away"
+                + " are as many at most, then each time as many times that less 1 (with 1 TIE"
+                + " none), till all are there (PEOPLE for each that can't be).");
         SevenTown twenty = new SevenTown(20);
         Due.same("1", twenty.bound(1), 1 + 18 * 20);
         Due.same("2", twenty.bound(2), 2 * 45 + 10);
@@ -168,9 +177,11 @@ public final class SetsTest {
         Due.same("four, two ties", new SevenTown(4).bound(2), 1 + 1 + 2);
         Due.promise(33, "NONE: no such number.");
         SevenTown town = Due.town(6, TAIL);
-        for (int ties : new int[] {0, 10, 11, -1, Integer.MIN_VALUE, Integer.MAX_VALUE}) {
-            Due.refused(town, "bound(" + ties + ")", -1, () -> town.bound(ties));
-        }
+        Due.unchanged(town, () -> {
+            for (int ties : new int[] {0, 10, 11, -1, Integer.MIN_VALUE, Integer.MAX_VALUE}) {
+                Due.same("bound(" + ties + ")", town.bound(ties), -1);
+            }
+        });
     }
 
     private static void promise34Image() {
@@ -264,9 +275,11 @@ public final class SetsTest {
         Due.same("all", all.set(0), 1023);
         Due.promise(36, "NONE: no such what.");
         SevenTown town = Due.town(6, TAIL);
-        for (int what : new int[] {3, 4, 32, -1, Integer.MIN_VALUE, Integer.MAX_VALUE}) {
-            Due.refused(town, "set(" + what + ")", -1, () -> town.set(what));
-        }
+        Due.unchanged(town, () -> {
+            for (int what : new int[] {3, 4, 32, -1, Integer.MIN_VALUE, Integer.MAX_VALUE}) {
+                Due.same("set(" + what + ")", town.set(what), -1);
+            }
+        });
     }
 
     private static void promise36Apartness() {
@@ -285,12 +298,17 @@ public final class SetsTest {
             all.most(i, 9);
         }
         all.ring(31);
+        Due.same("all are a circle", all.set(0), 1023);
         Due.same("one of all tied", all.set(1), 1);
+        Due.same("and one host", all.set(2), 1);
+        Due.text(all, 0, "");
+        Due.same("no ties, all apart", all.set(1), 1023);
+        Due.same("no ties, a circle of one", all.set(0), 1);
     }
 
     private static void promise36Hosts() {
-        Due.term("HOSTS: the fewest so that everybody else KNOWS one of them; each time, of several"
-                + " sets as great, that with the lower one where two first differ.");
+        Due.term("HOSTS: the fewest so that everybody else KNOWS one of them; each time, of"
+                + " several sets as great, that with the lower one where two first differ.");
         Due.same("hosts", Due.town(6, TAIL).set(2), Due.bits(0, 3, 5));
         Due.same("all", new SevenTown(20).set(2), (1 << 20) - 1);
         Due.same("of two", Due.town(2, "ab").set(2), 1);
@@ -309,8 +327,8 @@ public final class SetsTest {
 
     private static void promise37Word() {
         Due.promise(37, "Who have HEARD behind so many rounds (0 .. 20), as bits.");
-        Due.term("WORD from some (bits): they have HEARD behind 0 rounds; in each round all who KNOW"
-                + " one that has HEARD ahead of it HEAR;");
+        Due.term("WORD from some (bits): they have HEARD behind 0 rounds; in each round all who"
+                + " KNOW one that has HEARD ahead of it HEAR;");
         SevenTown town = Due.town(6, TAIL);
         Due.same("behind none", town.word(Due.bits(0, 5), 0), Due.bits(0, 5));
         Due.same("behind one", town.word(Due.bits(0, 5), 1), Due.bits(0, 1, 2, 5));
@@ -328,13 +346,17 @@ public final class SetsTest {
         Due.same("the last one", row.word(1 << 19, 0), 1 << 19);
         Due.same("all", row.word((1 << 20) - 1, 0), (1 << 20) - 1);
         Due.promise(37, "NONE: no such ones (bits, not 0).");
-        for (int rounds : new int[] {-1, 21, 22, Integer.MIN_VALUE, Integer.MAX_VALUE}) {
-            Due.refused(town, "word(1, " + rounds + ")", -1, () -> town.word(1, rounds));
-        }
-        for (int from : NO_BITS) {
-            Due.refused(town, "word(" + from + ", 1)", -1, () -> town.word(from, 1));
-            Due.refused(town, "word(" + from + ", 0)", -1, () -> town.word(from, 0));
-        }
+        Due.unchanged(town, () -> {
+            for (int rounds : new int[] {-1, 21, 22, Integer.MIN_VALUE, Integer.MAX_VALUE}) {
+                Due.same("word(1, " + rounds + ")", town.word(1, rounds), -1);
+            }
+        });
+        Due.unchanged(town, () -> {
+            for (int from : NO_BITS) {
+                Due.same("word(" + from + ", 1)", town.word(from, 1), -1);
+                Due.same("word(" + from + ", 0)", town.word(from, 0), -1);
+            }
+        });
         Due.same("a 21st", row.word(1 << 20, 1), -1);
         Due.same("a 21st with all", row.word((1 << 21) - 1, 1), -1);
     }
@@ -356,16 +378,18 @@ public final class SetsTest {
         Due.same("from the other end", row.out(1 << 19), 19);
         Due.same("from both", row.out(1 | 1 << 19), 9);
         Due.promise(38, "NONE: no such ones (bits, not 0).");
-        for (int from : NO_BITS) {
-            Due.refused(town, "out(" + from + ")", -1, () -> town.out(from));
-        }
+        Due.unchanged(town, () -> {
+            for (int from : NO_BITS) {
+                Due.same("out(" + from + ")", town.out(from), -1);
+            }
+        });
     }
 
     private static void promise39Begin() {
         Due.promise(39, "BEGINNERS, as bits.");
-        Due.term("BEGINNERS (1 .. 3): the set of so many from which most HEAR at last; of these the"
-                + " one OUT in the fewest rounds; of several that with the lower one where two first"
-                + " differ.");
+        Due.term("BEGINNERS (1 .. 3): the set of so many from which most HEAR at last; of these"
+                + " the one OUT in the fewest rounds; of several that with the lower one where"
+                + " two first differ.");
         SevenTown town = Due.town(6, TAIL);
         Due.same("one", town.begin(1), Due.bits(2));
         Due.same("two", town.begin(2), Due.bits(2, 5));
@@ -378,14 +402,21 @@ public final class SetsTest {
         SevenTown row = new SevenTown(20);
         row.ring(1);
         Due.same("a d ahead of b c of a ring", row.begin(2), Due.bits(0, 9));
+        Due.same("the last three of twenty", Due.town(20,
+                "ra,rb,rc,rd,re,rf,sg,sh,si,sj,sk,sl,tm,tn,to,tp,tq").begin(3),
+                Due.bits(17, 18, 19));
         Due.same("as many as people", new SevenTown(2).begin(2), 3);
+        Due.same("as many as people, tied", Due.town(2, "ab").begin(2), 3);
         Due.same("as many as people", new SevenTown(3).begin(3), 7);
+        Due.same("as many as people, tied", Due.town(3, "ab,ac").begin(3), 7);
         Due.promise(39, "NONE: no such number (more than PEOPLE, too).");
         Due.same("more than people", new SevenTown(2).begin(3), -1);
         Due.same("four of three", new SevenTown(3).begin(4), -1);
-        for (int many : new int[] {0, 4, 5, 20, 32, -1, Integer.MIN_VALUE, Integer.MAX_VALUE}) {
-            Due.refused(town, "begin(" + many + ")", -1, () -> town.begin(many));
-        }
+        Due.unchanged(town, () -> {
+            for (int many : new int[] {0, 4, 5, 20, 32, -1, Integer.MIN_VALUE, Integer.MAX_VALUE}) {
+                Due.same("begin(" + many + ")", town.begin(many), -1);
+            }
+        });
     }
 
     private static void promise40Common() {
@@ -400,22 +431,25 @@ public final class SetsTest {
         for (int one = 0; one < 6; one++) {
             Due.same("alike", town.common(one, one), -1);
         }
-        for (int one : NOBODY) {
-            Due.refused(town, "common(" + one + ", 0)", -1, () -> town.common(one, 0));
-            Due.refused(town, "common(0, " + one + ")", -1, () -> town.common(0, one));
-        }
+        Due.unchanged(town, () -> {
+            for (int one : NOBODY) {
+                Due.same("common(" + one + ", 0)", town.common(one, 0), -1);
+                Due.same("common(0, " + one + ")", town.common(0, one), -1);
+            }
+        });
     }
 
     private static void promise41Likely() {
         Due.promise(41, "LIKELY: 20 times the first and the other.");
-        Due.term("LIKELY: the two, not tied, with most in COMMON (of several the lowest first one,"
-                + " then other one, the first the lower).");
+        Due.term("LIKELY: the two, not tied, with most in COMMON (of several the lowest first"
+                + " one, then other one, the first the lower).");
         Due.same("none in common", new SevenTown(4).likely(), 1);
         Due.same("a-b tied", Due.town(4, "ab").likely(), 2);
         Due.same("c and d", Due.town(6, "ac,ad,bc,bd,ab").likely(), 20 * 2 + 3);
         Due.same("of several the lowest", Due.town(6, "ef,ed,fc").likely(), 20 * 2 + 4);
         Due.same("lowest first one, then other", Due.town(6, "af,fd,fb,cf").likely(), 1);
         Due.same("two are more than one", Due.town(6, "ab,bc,df,ef,da,ea").likely(), 5);
+        Due.same("c and f have two, a and c one", Due.town(6, "ab,bc,cd,ce,df,ef").likely(), 45);
         Due.same("the last two", Due.town(20, "sa,ta").likely(), 20 * 18 + 19);
         Due.promise(41, "NONE: all are tied.");
         SevenTown all = Due.town(3, "ab,bc,ca");
@@ -428,8 +462,8 @@ public final class SetsTest {
     private static void promise42Threes() {
         Due.promise(42, "CLOSED (0), OPEN (1), SHARE (2).");
         Due.term("CLOSED: sets of three of whom each KNOWS each; OPEN: sets of three of whom just"
-                + " two pairs KNOW each other; SHARE: 1,000 times 3 times CLOSED by 3 times CLOSED"
-                + " and OPEN, cut (0 without both).");
+                + " two pairs KNOW each other; SHARE: 1,000 times 3 times CLOSED by 3 times"
+                + " CLOSED and OPEN, cut (0 without both).");
         SevenTown town = Due.town(6, TAIL);
         Due.same("closed", town.threes(0), 1);
         Due.same("open", town.threes(1), 3);
@@ -452,17 +486,19 @@ public final class SetsTest {
         ten.ring(31);
         Due.same("ten of all tied", ten.threes(0), 120);
         Due.promise(42, "NONE: no such what.");
-        for (int what : new int[] {3, 4, 32, -1, Integer.MIN_VALUE, Integer.MAX_VALUE}) {
-            Due.refused(town, "threes(" + what + ")", -1, () -> town.threes(what));
-        }
+        Due.unchanged(town, () -> {
+            for (int what : new int[] {3, 4, 32, -1, Integer.MIN_VALUE, Integer.MAX_VALUE}) {
+                Due.same("threes(" + what + ")", town.threes(what), -1);
+            }
+        });
     }
 
     private static void promise43Courier() {
         Due.promise(43, "COURIER: the one (0), by how much (1).");
         Due.term("COURIER: of each FAR of all others to one another together (each pair twice;"
-                + " PEOPLE where there is no way), once over it and all, once without it, how much"
-                + " more it is without it; the one with the most (of several the lowest); and how"
-                + " much.");
+                + " PEOPLE where there is no way), once over it and all, once without it, how"
+                + " much more it is without it; the one with the most (of several the lowest);"
+                + " and how much.");
         SevenTown town = Due.town(6, TAIL);
         Due.same("c", town.courier(0), 2);
         Due.same("by", town.courier(1), 28);
@@ -480,9 +516,11 @@ public final class SetsTest {
         Due.same("a: b and e are three apart then", ring.courier(0), 0);
         Due.same("by", ring.courier(1), 2);
         Due.promise(43, "NONE: no such what.");
-        for (int what : NO_WHAT) {
-            Due.refused(town, "courier(" + what + ")", -1, () -> town.courier(what));
-        }
+        Due.unchanged(town, () -> {
+            for (int what : NO_WHAT) {
+                Due.same("courier(" + what + ")", town.courier(what), -1);
+            }
+        });
     }
 
     private static void promise44Loss() {
@@ -498,16 +536,18 @@ public final class SetsTest {
         Due.promise(44, "NONE: no such TIE.");
         Due.refused(town, "not tied", -1, () -> town.loss(0, 3));
         Due.refused(town, "alike", -1, () -> town.loss(0, 0));
-        for (int one : NOBODY) {
-            Due.refused(town, "loss(" + one + ", 0)", -1, () -> town.loss(one, 0));
-            Due.refused(town, "loss(1, " + one + ")", -1, () -> town.loss(1, one));
-        }
+        Due.unchanged(town, () -> {
+            for (int one : NOBODY) {
+                Due.same("loss(" + one + ", 0)", town.loss(one, 0), -1);
+                Due.same("loss(1, " + one + ")", town.loss(1, one), -1);
+            }
+        });
     }
 
     private static void promise45Dear() {
         Due.promise(45, "DEAR (0), GIFT (1): 20 times the first and the other.");
-        Due.term("DEAR: the TIE with the greatest (of several the lowest first one, then the other"
-                + " one, the first the lower).");
+        Due.term("DEAR: the TIE with the greatest (of several the lowest first one, then the"
+                + " other one, the first the lower).");
         Due.same("c-d", Due.town(6, TAIL).dear(0), 20 * 2 + 3);
         SevenTown ring = new SevenTown(7);
         ring.ring(1);
@@ -519,17 +559,19 @@ public final class SetsTest {
         SevenTown none = new SevenTown(4);
         Due.refused(none, "no ties", -1, () -> none.dear(0));
         SevenTown town = Due.town(6, TAIL);
-        for (int what : NO_WHAT) {
-            Due.refused(town, "dear(" + what + ")", -1, () -> town.dear(what));
-        }
+        Due.unchanged(town, () -> {
+            for (int what : NO_WHAT) {
+                Due.same("dear(" + what + ")", town.dear(what), -1);
+            }
+        });
         town.dear(0);
         town.dear(1);
         Due.same("ties stay", town.all(3), 5);
     }
 
     private static void promise45Gift() {
-        Due.term("GIFT: the TIE more (both below MOST) by which the SUMS of all together fall most,"
-                + " likewise.");
+        Due.term("GIFT: the TIE more (both below MOST) by which the SUMS of all together fall"
+                + " most, likewise.");
         Due.same("e-f", Due.town(6, TAIL).dear(1), 20 * 2 + 5);
         Due.same("of several the lowest", new SevenTown(4).dear(1), 1);
         Due.same("of two apart", new SevenTown(2).dear(1), 1);

@@ -133,7 +133,8 @@ public final class TextsTest {
         Due.same("all blanks are no rule", twenty.fault(1), 200);
         SevenTown kept = new SevenTown(4);
         Due.feed(kept, "ab" + " ".repeat(185));
-        Due.refused(kept, "twenty more than 187", -1, () -> kept.feed(four, four, four, four, four));
+        Due.refused(kept, "twenty more than 187", -1,
+                () -> kept.feed(four, four, four, four, four));
         Due.same("nothing of it came", kept.text(0), 1);
     }
 
@@ -164,9 +165,12 @@ public final class TextsTest {
         Due.refused(town, "end(1) of nothing", () -> town.end(1));
         Due.refused(town, "end(-1) of nothing", () -> town.end(-1));
         Due.feed(town, "ab,bc,cd");
-        for (int n : new int[] {9, 10, 200, 201, Integer.MAX_VALUE, -1, -8, Integer.MIN_VALUE}) {
-            Due.refused(town, "end(" + n + ") of 8", () -> town.end(n));
-        }
+        Due.unchanged(town, () -> {
+            for (int n : new int[] {9, 10, 200, 201, -1, -8, Integer.MIN_VALUE,
+                    Integer.MAX_VALUE}) {
+                Due.no("end(" + n + ") of 8", town.end(n));
+            }
+        });
         town.end(5);
         Due.refused(town, "what is gone is gone", () -> town.end(6));
         Due.same("ab,bc", town.text(0), 2);
@@ -186,9 +190,11 @@ public final class TextsTest {
         Due.same("a rule", Due.fault(town, 1, "y:1"), -1);
         Due.same("there is none yet", town.count(1), 0);
         Due.promise(4, "-2: no such sort.");
-        for (int sort : new int[] {2, 3, -1, -2, Integer.MIN_VALUE, Integer.MAX_VALUE}) {
-            Due.refused(town, "fault(" + sort + ")", -2, () -> town.fault(sort));
-        }
+        Due.unchanged(town, () -> {
+            for (int sort : new int[] {2, 3, -1, -2, Integer.MIN_VALUE, Integer.MAX_VALUE}) {
+                Due.same("fault(" + sort + ")", town.fault(sort), -2);
+            }
+        });
     }
 
     private static void net(int people, String text, int due) {
@@ -225,8 +231,8 @@ public final class TextsTest {
 
     private static void nobodyInNets() {
         Due.term("in a NET a letter that is no one's, a second letter alike the first, or tied"
-                + " with it already, or by which one of both would have more than MOST, is wrong at"
-                + " the second letter (a first that is no one's at it).");
+                + " with it already, or by which one of both would have more than MOST, is wrong"
+                + " at the second letter (a first that is no one's at it).");
         net(4, "ae", 1);
         net(4, "ea", 0);
         net(4, "ee", 0);
@@ -277,8 +283,8 @@ public final class TextsTest {
     }
 
     private static void faultsOfRules() {
-        Due.term("RULES (6 at most) are TEXTS: CLAUSES with ; between, one at least: y, : , perhaps"
-                + " CONDITION ?, then SUM.");
+        Due.term("RULES (6 at most) are TEXTS: CLAUSES with ; between, one at least: y, : ,"
+                + " perhaps CONDITION ?, then SUM.");
         rule("", 0);
         rule(" ", 1);
         rule("y", 1);
@@ -370,8 +376,8 @@ public final class TextsTest {
     }
 
     private static void faultsOfConditions() {
-        Due.term("CONDITION: TRUTHS with | between; TRUTH: UNITS with & between; UNIT: ! UNIT,"
-                + " ( CONDITION ), or SUM, one of = < >, SUM.");
+        Due.term("CONDITION: TRUTHS with | between; TRUTH: UNITS with & between; UNIT: ! UNIT, ("
+                + " CONDITION ), or SUM, one of = < >, SUM.");
         rule("y:1=2", 5);
         rule("y:1=2;", 5);
         rule("y:1=2?3", -1);
@@ -471,8 +477,8 @@ public final class TextsTest {
     }
 
     private static void promise5Net() {
-        Due.promise(5, "The TAPE (empty then; if refused it stays) is the NET (all TIES as there):"
-                + " how many TIES; a RULE: its number.");
+        Due.promise(5, "The TAPE (empty then; if refused it stays) is the NET (all TIES as"
+                + " there): how many TIES; a RULE: its number.");
         SevenTown town = new SevenTown(5);
         Due.same("two ties", Due.text(town, 0, "ab, bc"), 2);
         Due.same("the tape is empty", town.count(2), 0);
@@ -513,19 +519,22 @@ public final class TextsTest {
         Due.feed(town, "ab,aa");
         Due.refused(town, "a fault", -1, () -> town.text(0));
         Due.refused(town, "a net is no rule", -1, () -> town.text(1));
-        for (int sort : new int[] {2, -1, Integer.MIN_VALUE, Integer.MAX_VALUE}) {
-            Due.refused(town, "text(" + sort + ")", -1, () -> town.text(sort));
-        }
+        Due.unchanged(town, () -> {
+            for (int sort : new int[] {2, -1, Integer.MIN_VALUE, Integer.MAX_VALUE}) {
+                Due.same("text(" + sort + ")", town.text(sort), -1);
+            }
+        });
         Due.feed(town, "ab");
         Due.refused(town, "no such sort, though a net", -1, () -> town.text(2));
         Due.same("the tape stays", town.text(0), 1);
-        Due.feed(town, "y:1;");
-        Due.refused(town, "a rule with a fault", -1, () -> town.text(1));
-        Due.feed(town, "y:1");
-        Due.refused(town, "a rule is no net", -1, () -> town.text(0));
-        Due.same("the tape stays", town.text(1), 1);
-        town.end(0);
-        Due.refused(town, "an empty tape is no rule", -1, () -> town.text(1));
+        SevenTown other = Due.town(5, "de", "y:t");
+        Due.feed(other, "y:1;");
+        Due.refused(other, "a rule with a fault", -1, () -> other.text(1));
+        Due.feed(other, "y:1");
+        Due.refused(other, "a rule is no net", -1, () -> other.text(0));
+        Due.same("the tape stays", other.text(1), 1);
+        other.end(0);
+        Due.refused(other, "an empty tape is no rule", -1, () -> other.text(1));
     }
 
     /** Texts of 200 bytes: the most ties and the most clauses that a tape can tell. */
@@ -576,9 +585,11 @@ public final class TextsTest {
         Due.same("needs", town.count(3), 2);
         Due.same("cost", town.count(4), 42);
         Due.promise(46, "HIDDEN for others.");
-        for (int what : new int[] {5, 6, -1, Integer.MIN_VALUE, Integer.MAX_VALUE}) {
-            Due.refused(town, "count(" + what + ")", -1000000, () -> town.count(what));
-        }
+        Due.unchanged(town, () -> {
+            for (int what : new int[] {5, 6, -1, Integer.MIN_VALUE, Integer.MAX_VALUE}) {
+                Due.same("count(" + what + ")", town.count(what), -1000000);
+            }
+        });
     }
 
     /** An object is used for 512 calls: the last of them is as the document says still. */

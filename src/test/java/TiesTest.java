@@ -67,12 +67,16 @@ public final class TiesTest {
     private static void promise6RefusedMost() {
         Due.promise(6, "False: no such one, out of bounds, below its TIES.");
         SevenTown town = Due.town(5, ROW);
-        for (int one : NOBODY) {
-            Due.refused(town, "most(" + one + ", 3)", () -> town.most(one, 3));
-        }
-        for (int v : new int[] {-1, -7, 10, 11, Integer.MIN_VALUE, Integer.MAX_VALUE}) {
-            Due.refused(town, "most(4, " + v + ")", () -> town.most(4, v));
-        }
+        Due.unchanged(town, () -> {
+            for (int one : NOBODY) {
+                Due.no("most(" + one + ", 3)", town.most(one, 3));
+            }
+        });
+        Due.unchanged(town, () -> {
+            for (int v : new int[] {-1, -7, 10, 11, Integer.MIN_VALUE, Integer.MAX_VALUE}) {
+                Due.no("most(4, " + v + ")", town.most(4, v));
+            }
+        });
         Due.refused(town, "below its ties", () -> town.most(1, 1));
         Due.refused(town, "below its ties", () -> town.most(0, 0));
         Due.yes("as its ties", town.most(0, 1));
@@ -95,15 +99,26 @@ public final class TiesTest {
     private static void promise7RefusedTie() {
         Due.promise(7, "False: no such ones, alike, tied, one has MOST.");
         SevenTown town = Due.town(5, ROW);
-        for (int one : NOBODY) {
-            Due.refused(town, "tie(" + one + ", 0)", () -> town.tie(one, 0));
-            Due.refused(town, "tie(0, " + one + ")", () -> town.tie(0, one));
-            Due.refused(town, "tie of no ones", () -> town.tie(one, one + 1));
-        }
-        Due.refused(town, "alike", () -> town.tie(3, 3));
-        Due.refused(town, "alike", () -> town.tie(0, 0));
+        Due.unchanged(town, () -> {
+            for (int one : NOBODY) {
+                Due.no("tie(" + one + ", 0)", town.tie(one, 0));
+                Due.no("tie(0, " + one + ")", town.tie(0, one));
+                Due.no("tie of no ones", town.tie(one, one + 1));
+                Due.no("tie of no one and itself", town.tie(one, one));
+            }
+        });
+        Due.unchanged(town, () -> {
+            for (int one = 0; one < 5; one++) {
+                Due.no("alike", town.tie(one, one));
+            }
+        });
         Due.refused(town, "tied", () -> town.tie(0, 1));
         Due.refused(town, "tied", () -> town.tie(1, 0));
+        promise7Most();
+    }
+
+    private static void promise7Most() {
+        SevenTown town = Due.town(5, ROW);
         town.most(1, 2);
         Due.refused(town, "the first has most", () -> town.tie(1, 4));
         Due.refused(town, "the other has most", () -> town.tie(4, 1));
@@ -130,12 +145,14 @@ public final class TiesTest {
         Due.refused(town, "no more", () -> town.drop(1, 2));
         Due.refused(town, "not tied", () -> town.drop(0, 2));
         Due.refused(town, "alike", () -> town.drop(0, 0));
-        for (int one : NOBODY) {
-            Due.refused(town, "drop(" + one + ", 0)", () -> town.drop(one, 0));
-            Due.refused(town, "drop(0, " + one + ")", () -> town.drop(0, one));
-            Due.refused(town, "drop(1, " + one + ")", () -> town.drop(1, one));
-            Due.refused(town, "drop(" + one + ", 1)", () -> town.drop(one, 1));
-        }
+        Due.unchanged(town, () -> {
+            for (int one : NOBODY) {
+                Due.no("drop(" + one + ", 0)", town.drop(one, 0));
+                Due.no("drop(0, " + one + ")", town.drop(0, one));
+                Due.no("drop(1, " + one + ")", town.drop(1, one));
+                Due.no("drop(" + one + ", 1)", town.drop(one, 1));
+            }
+        });
     }
 
     private static void promise9Knows() {
@@ -146,9 +163,11 @@ public final class TiesTest {
         Due.same("c", Due.knows(town, 2), 0);
         Due.promise(9, "NoSuchElementException: no such one.");
         int[] nobody = {20, 21, 32, 52, Integer.MAX_VALUE, -1, -20, Integer.MIN_VALUE};
-        for (int one : nobody) {
-            Due.refused(town, "knows(" + one + ")", -2, () -> Due.knows(town, one));
-        }
+        Due.unchanged(town, () -> {
+            for (int one : nobody) {
+                Due.same("knows(" + one + ")", Due.knows(town, one), -2);
+            }
+        });
         Due.same("of two", Due.knows(new SevenTown(2), 2), -2);
         Due.same("of two", Due.knows(new SevenTown(2), 1), 0);
     }
@@ -169,11 +188,13 @@ public final class TiesTest {
         Due.same("no way", town.far(5, 0), -1);
         Due.same("no way", town.far(0, 5), -1);
         SevenTown five = Due.town(5, ROW);
-        for (int one : NOBODY) {
-            Due.refused(five, "far(" + one + ", 0)", -1, () -> five.far(one, 0));
-            Due.refused(five, "far(0, " + one + ")", -1, () -> five.far(0, one));
-            Due.refused(five, "no one and itself", -1, () -> five.far(one, one));
-        }
+        Due.unchanged(five, () -> {
+            for (int one : NOBODY) {
+                Due.same("far(" + one + ", 0)", five.far(one, 0), -1);
+                Due.same("far(0, " + one + ")", five.far(0, one), -1);
+                Due.same("no one and itself", five.far(one, one), -1);
+            }
+        });
     }
 
     private static void promise11Ways() {
@@ -193,11 +214,13 @@ public final class TiesTest {
         Due.same("no way", town.ways(0, 7), -1);
         Due.same("no way", town.ways(8, 7), -1);
         SevenTown five = Due.town(5, ROW);
-        for (int one : NOBODY) {
-            Due.refused(five, "ways(" + one + ", 0)", -1, () -> five.ways(one, 0));
-            Due.refused(five, "ways(0, " + one + ")", -1, () -> five.ways(0, one));
-            Due.refused(five, "no one and itself", -1, () -> five.ways(one, one));
-        }
+        Due.unchanged(five, () -> {
+            for (int one : NOBODY) {
+                Due.same("ways(" + one + ", 0)", five.ways(one, 0), -1);
+                Due.same("ways(0, " + one + ")", five.ways(0, one), -1);
+                Due.same("no one and itself", five.ways(one, one), -1);
+            }
+        });
     }
 
     private static void manyWays() {
@@ -252,14 +275,18 @@ public final class TiesTest {
         Due.same("no way", town.over(0, 8, 0), -1);
         Due.same("no way", town.over(0, 8, 1), -1);
         SevenTown five = Due.town(5, ROW);
-        for (int what : new int[] {2, 3, -1, Integer.MIN_VALUE, Integer.MAX_VALUE}) {
-            Due.refused(five, "over(0, 4, " + what + ")", -1, () -> five.over(0, 4, what));
-        }
-        for (int one : NOBODY) {
-            Due.refused(five, "over(0, " + one + ")", -1, () -> five.over(0, one, 0));
-            Due.refused(five, "over(" + one + ", 0)", -1, () -> five.over(one, 0, 1));
-            Due.refused(five, "no one and itself", -1, () -> five.over(one, one, 1));
-        }
+        Due.unchanged(five, () -> {
+            for (int what : new int[] {2, 3, -1, Integer.MIN_VALUE, Integer.MAX_VALUE}) {
+                Due.same("over(0, 4, " + what + ")", five.over(0, 4, what), -1);
+            }
+        });
+        Due.unchanged(five, () -> {
+            for (int one : NOBODY) {
+                Due.same("over(0, " + one + ")", five.over(0, one, 0), -1);
+                Due.same("over(" + one + ", 0)", five.over(one, 0, 1), -1);
+                Due.same("no one and itself", five.over(one, one, 1), -1);
+            }
+        });
     }
 
     private static void promise13Sum() {
@@ -274,15 +301,18 @@ public final class TiesTest {
         Due.same("sum of two apart", new SevenTown(2).of(0, 0), 2);
         Due.promise(13, "NONE: no such ones.");
         SevenTown five = Due.town(5, ROW);
-        for (int what : new int[] {5, 6, -1, Integer.MIN_VALUE, Integer.MAX_VALUE}) {
-            Due.refused(five, "of(0, " + what + ")", -1, () -> five.of(0, what));
-        }
-        for (int one : NOBODY) {
-            for (int what = 0; what <= 4; what++) {
-                int asked = what;
-                Due.refused(five, "of(" + one + ", " + what + ")", -1, () -> five.of(one, asked));
+        Due.unchanged(five, () -> {
+            for (int what : new int[] {5, 6, -1, Integer.MIN_VALUE, Integer.MAX_VALUE}) {
+                Due.same("of(0, " + what + ")", five.of(0, what), -1);
             }
-        }
+        });
+        Due.unchanged(five, () -> {
+            for (int one : NOBODY) {
+                for (int what = 0; what <= 4; what++) {
+                    Due.same("of(" + one + ", " + what + ")", five.of(one, what), -1);
+                }
+            }
+        });
     }
 
     private static void promise13PartAndCut() {
@@ -358,9 +388,11 @@ public final class TiesTest {
         most.ring(1 + 2 + 4 + 8 + 512);
         Due.same("ninety ties", most.all(3), 90);
         Due.promise(14, "NONE: no such what.");
-        for (int what : new int[] {5, 6, -1, Integer.MIN_VALUE, Integer.MAX_VALUE}) {
-            Due.refused(town, "all(" + what + ")", -1, () -> town.all(what));
-        }
+        Due.unchanged(town, () -> {
+            for (int what : new int[] {5, 6, -1, Integer.MIN_VALUE, Integer.MAX_VALUE}) {
+                Due.same("all(" + what + ")", town.all(what), -1);
+            }
+        });
     }
 
     private static void promise15Load() {
@@ -378,18 +410,20 @@ public final class TiesTest {
         SevenTown five = Due.town(5, ROW);
         Due.refused(five, "not tied", -1, () -> five.load(0, 2));
         Due.refused(five, "alike", -1, () -> five.load(1, 1));
-        for (int one : NOBODY) {
-            Due.refused(five, "load(" + one + ", 0)", -1, () -> five.load(one, 0));
-            Due.refused(five, "load(1, " + one + ")", -1, () -> five.load(1, one));
-        }
+        Due.unchanged(five, () -> {
+            for (int one : NOBODY) {
+                Due.same("load(" + one + ", 0)", five.load(one, 0), -1);
+                Due.same("load(1, " + one + ")", five.load(1, one), -1);
+            }
+        });
         five.load(0, 1);
         Due.same("all is as ahead", five.all(3), 4);
     }
 
     private static void promise16Apart() {
         Due.promise(16, "APART.");
-        Due.term("APART: how many rows from one to another one, not tied, that share no PEOPLE but"
-                + " these two, there can be at most.");
+        Due.term("APART: how many rows from one to another one, not tied, that share no PEOPLE"
+                + " but these two, there can be at most.");
         SevenTown town = Due.town(8, "ab,ac,ad,be,ce,de,ef,fg");
         Due.same("three rows", town.apart(0, 4), 3);
         Due.same("over one alone", town.apart(0, 5), 1);
@@ -403,10 +437,12 @@ public final class TiesTest {
         Due.refused(five, "tied", -1, () -> five.apart(0, 1));
         Due.refused(five, "tied", -1, () -> five.apart(1, 0));
         Due.refused(five, "alike", -1, () -> five.apart(2, 2));
-        for (int one : NOBODY) {
-            Due.refused(five, "apart(" + one + ", 0)", -1, () -> five.apart(one, 0));
-            Due.refused(five, "apart(0, " + one + ")", -1, () -> five.apart(0, one));
-        }
+        Due.unchanged(five, () -> {
+            for (int one : NOBODY) {
+                Due.same("apart(" + one + ", 0)", five.apart(one, 0), -1);
+                Due.same("apart(0, " + one + ")", five.apart(0, one), -1);
+            }
+        });
     }
 
     private static void promise16ApartMany() {
@@ -454,15 +490,17 @@ public final class TiesTest {
         four.ring(3);
         Due.same("four ways each", four.bears(3), 1);
         Due.promise(17, "NONE: no such k.");
-        for (int k : new int[] {4, 5, 20, 32, -1, Integer.MIN_VALUE, Integer.MAX_VALUE}) {
-            Due.refused(round, "bears(" + k + ")", -1, () -> round.bears(k));
-        }
+        Due.unchanged(round, () -> {
+            for (int k : new int[] {4, 5, 20, 32, -1, Integer.MIN_VALUE, Integer.MAX_VALUE}) {
+                Due.same("bears(" + k + ")", round.bears(k), -1);
+            }
+        });
     }
 
     private static void promise18Broken() {
         Due.promise(18, "BREAK, as bits.");
-        Due.term("BREAK k: the set of k without which they are not (of several that with the lower"
-                + " one where two first differ).");
+        Due.term("BREAK k: the set of k without which they are not (of several that with the"
+                + " lower one where two first differ).");
         SevenTown town = Due.town(6, "ab,bc,cd,de,ef");
         Due.same("one", town.broken(1), Due.bits(1));
         Due.same("two: 0 and 2 come ahead of 1 and 2", town.broken(2), Due.bits(0, 2));
@@ -473,9 +511,13 @@ public final class TiesTest {
         Due.same("the last one", Due.town(4, "da,db,dc").broken(1), Due.bits(3));
         Due.same("the last three", Due.town(5, "ac,ad,ae,bc,bd,be,cd,ce,de").broken(3),
                 Due.bits(2, 3, 4));
-        SevenTown last = new SevenTown(20);
-        last.ring(1);
-        Due.same("of twenty", last.broken(2), Due.bits(0, 2));
+        SevenTown round = new SevenTown(20);
+        round.ring(1);
+        Due.same("of twenty", round.broken(2), Due.bits(0, 2));
+        SevenTown last = twoRingsAndThree();
+        Due.same("no two of twenty", last.broken(2), -1);
+        Due.same("the last three of twenty", last.broken(3), Due.bits(17, 18, 19));
+        Due.same("they do not bear it", last.bears(3), 0);
         Due.promise(18, "NONE: none, no such k.");
         Due.same("joined", town.broken(0), -1);
         Due.same("of two", new SevenTown(2).broken(1), -1);
@@ -483,17 +525,39 @@ public final class TiesTest {
         Due.same("of two", new SevenTown(2).broken(3), -1);
         Due.same("of three", new SevenTown(3).broken(3), -1);
         Due.same("all tied", Due.town(5, "ab,ac,ad,ae,bc,bd,be,cd,ce,de").broken(3), -1);
-        for (int k : new int[] {4, 5, 20, 32, -1, Integer.MIN_VALUE, Integer.MAX_VALUE}) {
-            Due.refused(town, "broken(" + k + ")", -1, () -> town.broken(k));
+        Due.unchanged(town, () -> {
+            for (int k : new int[] {4, 5, 20, 32, -1, Integer.MIN_VALUE, Integer.MAX_VALUE}) {
+                Due.same("broken(" + k + ")", town.broken(k), -1);
+            }
+        });
+    }
+
+    /** Eight and nine, each a ring with jumps of 1 and 2, and three who each know four of both. */
+    private static SevenTown twoRingsAndThree() {
+        SevenTown town = new SevenTown(20);
+        for (int i = 0; i < 17; i++) {
+            int first = i < 8 ? 0 : 8;
+            int many = i < 8 ? 8 : 9;
+            town.tie(i, first + (i - first + 1) % many);
+            town.tie(i, first + (i - first + 2) % many);
         }
+        for (int one = 17; one < 20; one++) {
+            town.most(one, 8);
+            for (int i = 0; i < 4; i++) {
+                town.tie(one, (one + i) % 8);
+                town.tie(one, 8 + (one + i) % 9);
+            }
+        }
+        Due.same("ties", town.all(3), 16 + 18 + 24);
+        return town;
     }
 
     private static void promise19Mend() {
         Due.promise(19, "MEND.");
-        Due.term("MEND: the fewest TIES more by which all are joined, nobody above MOST: PARTS less"
-                + " 1 (0 with one PART); with more there is none, if a PART has no room, or all"
-                + " together not twice as much room as that is (room: MOST less TIES of its PEOPLE,"
-                + " together).");
+        Due.term("MEND: the fewest TIES more by which all are joined, nobody above MOST: PARTS"
+                + " less 1 (0 with one PART); with more there is none, if a PART has no room, or"
+                + " all together not twice as much room as that is (room: MOST less TIES of its"
+                + " PEOPLE, together).");
         Due.same("one part", Due.town(5, ROW).mend(), 0);
         Due.same("five parts", new SevenTown(5).mend(), 4);
         Due.same("twenty parts", new SevenTown(20).mend(), 19);
