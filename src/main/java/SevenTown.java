@@ -935,56 +935,51 @@ public final class SevenTown {
     /** Sets of people, and sets of two and three of them. */
     private static final class Sets {
         private final Net net;
-        private final int[] fits = new int[MOST_PEOPLE];
-        private int greatest;
-        private int widestReach;
+        private final int[] fits;
 
         Sets(Net net) {
             this.net = net;
+            this.fits = new int[net.people];
         }
 
         int circle() {
-            System.arraycopy(net.ties, 0, fits, 0, MOST_PEOPLE);
-            greatest = 0;
-            grow(0, net.everybody, 0);
-            return greatest;
+            return grow(net.ties, 0, 0, net.everybody, 0);
         }
 
         int apartness() {
-            for (int i = 0; i < net.people; i++) {
+            for (int i = 0; i < fits.length; i++) {
                 fits[i] = net.everybody & ~net.ties[i] & ~(1 << i);
             }
-            greatest = 0;
-            grow(0, net.everybody, 0);
-            return greatest;
+            return grow(fits, 0, 0, net.everybody, 0);
         }
 
-        /** Sets come in the order asked for, so that the first one of its size is the one. */
-        private void grow(int chosen, int open, int depth) {
-            int size = Integer.bitCount(chosen);
-            if (size > Integer.bitCount(greatest)) {
-                greatest = chosen;
-            }
+        /**
+         * The greatest of the best one so far and of all sets that go on from those chosen by those
+         * open. Sets come in the order asked for, so that the first one of its size is the one.
+         */
+        private static int grow(int[] fits, int size, int chosen, int open, int best) {
+            int greatest = size > Integer.bitCount(best) ? chosen : best;
             int left = open;
-            for (int i = 0; i < net.people && depth < MOST_PEOPLE; i++) {
+            for (int i = 0; i < fits.length && size < MOST_PEOPLE; i++) {
                 if (size + Integer.bitCount(left) <= Integer.bitCount(greatest)) {
-                    return;
+                    return greatest;
                 }
                 if ((left >> i & 1) != 0) {
                     left &= ~(1 << i);
-                    grow(chosen | 1 << i, left & fits[i], depth + 1);
+                    greatest = grow(fits, size + 1, chosen | 1 << i, left & fits[i], greatest);
                 }
             }
+            return greatest;
         }
 
         int hosts() {
-            widestReach = 1;
-            for (int i = 0; i < net.people; i++) {
+            int reach = 1;
+            for (int i = 0; i < fits.length; i++) {
                 fits[i] = net.ties[i] | 1 << i;
-                widestReach = Math.max(widestReach, Integer.bitCount(fits[i]));
+                reach = Math.max(reach, Integer.bitCount(fits[i]));
             }
             for (int many = 1; many < net.people; many++) {
-                int found = cover(0, 0, 0, many);
+                int found = cover(fits, 0, 0, net.everybody, many, reach);
                 if (found != NONE) {
                     return found;
                 }
@@ -992,25 +987,30 @@ public final class SevenTown {
             return net.everybody;
         }
 
-        /** From one on, so many more hosts for all that are not served; NONE if there are none. */
-        private int cover(int one, int chosen, int served, int many) {
-            if (served == net.everybody) {
+        /**
+         * From one on, so many more hosts for all that wait, none of whom serves more than reach;
+         * NONE if there are none.
+         */
+        private static int cover(int[] fits, int one, int chosen, int waiting, int many,
+                int reach) {
+            if (waiting == 0) {
                 return chosen;
             }
-            int waiting = net.everybody & ~served;
-            if (one >= net.people || Integer.bitCount(waiting) > many * widestReach) {
+            if (one >= fits.length || Integer.bitCount(waiting) > many * reach) {
                 return NONE;
             }
-            int found = cover(one + 1, chosen | 1 << one, served | fits[one], many - 1);
-            if (found != NONE || !servedBehind(one, waiting)) {
+            int found = cover(fits, one + 1, chosen | 1 << one, waiting & ~fits[one], many - 1,
+                    reach);
+            if (found != NONE || !servedBehind(fits, one, waiting)) {
                 return found;
             }
-            return cover(one + 1, chosen, served, many);
+            return cover(fits, one + 1, chosen, waiting, many, reach);
         }
 
-        private boolean servedBehind(int one, int waiting) {
-            int behind = net.everybody & ~((2 << one) - 1);
-            for (int i = 0; i < net.people; i++) {
+        /** Whether each that waits knows somebody behind one, or is such a one itself. */
+        private static boolean servedBehind(int[] fits, int one, int waiting) {
+            int behind = -(2 << one);
+            for (int i = 0; i < fits.length; i++) {
                 if ((waiting >> i & 1) != 0 && (fits[i] & behind) == 0) {
                     return false;
                 }
@@ -1268,30 +1268,32 @@ public final class SevenTown {
             }
         }
 
+        /** A ! or ( too deep is left where it is: no sum begins with it. */
         private void unit(int depth, boolean sumRead) {
-            int first = sumRead ? 0 : next();
-            if ((first == '!' || first == '(') && depth >= MOST_WITHIN) {
-                wrong = true;
-            } else if (first == '!') {
+            int within = depth;
+            while (!sumRead && within < MOST_WITHIN && next() == '!') {
                 at++;
-                unit(depth + 1, false);
-                write(Rules.NOT, 0);
-            } else if (first == '(') {
+                within++;
+            }
+            if (!sumRead && within < MOST_WITHIN && next() == '(') {
                 at++;
-                condition(depth + 1, false);
+                condition(within + 1, false);
                 expect(')');
             } else {
                 if (!sumRead) {
-                    sum(depth);
+                    sum(within);
                 }
                 int sign = comparing(next());
                 if (sign == NONE) {
                     wrong = true;
                 } else {
                     at++;
-                    sum(depth);
+                    sum(within);
                     write(sign, 0);
                 }
+            }
+            for (int i = depth; i < within; i++) {
+                write(Rules.NOT, 0);
             }
         }
 

@@ -25,6 +25,7 @@ public final class FaceTest {
         signs(lines);
         words(lines);
         lengths(lines);
+        recursion(lines);
         Due.report();
     }
 
@@ -145,20 +146,52 @@ public final class FaceTest {
         }
     }
 
-    /** A method stands between a line that opens it and the line that closes at the same margin. */
+    /** The margin of the line if it opens a method, -1 if it does not. */
+    private static int opens(String line) {
+        int margin = line.length() - line.stripLeading().length();
+        boolean may = (margin == 4 || margin == 8) && line.substring(margin)
+                .matches("(?!(for|if|while|switch) )[\\w\\[\\] ]+\\(.*[{,]");
+        return may ? margin : -1;
+    }
+
+    /** A method ends with the line that closes at the same margin. */
+    private static int end(List<String> lines, int from, int margin) {
+        int end = from;
+        while (!lines.get(end).equals(" ".repeat(margin) + "}")) {
+            end++;
+        }
+        return end;
+    }
+
     private static void lengths(List<String> lines) {
+        int methods = 0;
         for (int i = 0; i < lines.size(); i++) {
-            String line = lines.get(i);
-            int margin = line.length() - line.stripLeading().length();
-            if ((margin != 4 && margin != 8) || !line.endsWith("{") || line.contains(" class ")
-                    || !line.contains("(")) {
+            int margin = opens(lines.get(i));
+            if (margin >= 0) {
+                methods++;
+                Due.yes("at most sixty lines: " + lines.get(i),
+                        end(lines, i, margin) - i + 1 <= 60);
+            }
+        }
+        Due.yes("all methods are found: " + methods, methods > 150);
+    }
+
+    /** A method that calls itself is private and static (two that call one another need not be). */
+    private static void recursion(List<String> lines) {
+        int found = 0;
+        for (int i = 0; i < lines.size(); i++) {
+            int margin = opens(lines.get(i));
+            if (margin < 0) {
                 continue;
             }
-            int end = i;
-            while (!lines.get(end).equals(" ".repeat(margin) + "}")) {
-                end++;
+            String head = lines.get(i).substring(0, lines.get(i).indexOf('('));
+            String itself = "(?s).*[^\\w.]" + head.substring(head.lastIndexOf(' ') + 1) + "\\(.*";
+            String body = String.join("\n", lines.subList(i + 1, end(lines, i, margin)));
+            if (body.matches(itself)) {
+                found++;
+                Due.yes("calls itself: " + head, head.trim().startsWith("private static "));
             }
-            Due.yes("at most sixty lines: " + line, end - i + 1 <= 60);
         }
+        Due.same("methods that call themselves", found, 2);
     }
 }
